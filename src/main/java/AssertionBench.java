@@ -38,13 +38,13 @@ public final class AssertionBench {
     private int looks;
 
     public AssertionBench() {
-        empty();
+        // What the fields hold at first is the new object; rows are begun with the first letter.
     }
 
     public int put(int signs) throws IllegalArgumentException, UnsupportedOperationException {
         int more = 0;
         for (int k = 0; k < 4; k++) {
-            int sign = signs >>> 8 * k & 255;
+            int sign = (signs >>> (8 * k)) & 255;
             if (sign != 0 && (sign < 32 || sign > 126)) {
                 throw new IllegalArgumentException();
             }
@@ -54,7 +54,7 @@ public final class AssertionBench {
             throw new UnsupportedOperationException();
         }
         for (int k = 0; k < 4; k++) {
-            tokens.addSign(signs >>> 8 * k & 255);
+            tokens.addSign((signs >>> (8 * k)) & 255);
         }
         return tokens.signCount();
     }
@@ -92,6 +92,9 @@ public final class AssertionBench {
         letters[length] = v;
         int failing = 0;
         for (int p = 0; p < PROPERTIES; p++) {
+            if (length == 0) {
+                properties[p].startRow(rows[p], 0);
+            }
             boolean fails = properties[p].step(rows[p], 0, length, v);
             if (fails && failedAt[p] == 0) {
                 failedAt[p] = length + 1;
@@ -172,8 +175,9 @@ public final class AssertionBench {
         if (k < 0 || k >= count) {
             throw new NoSuchElementException();
         }
-        if (k == 0) {
-            return length == 0;
+        // Without a letter there is no place yet at which anything began.
+        if (k == 0 || length == 0) {
+            return k == 0 && length == 0;
         }
         if (k == count - 1) {
             return failedAt[p] != 0;
@@ -361,7 +365,6 @@ public final class AssertionBench {
         length = 0;
         for (int p = 0; p < PROPERTIES; p++) {
             failedAt[p] = 0;
-            properties[p].startRow(rows[p], 0);
         }
     }
 
@@ -1270,7 +1273,7 @@ public final class AssertionBench {
                 return;
             }
             addSteps(lasts[pieces - 1], firsts[pieces - 1]);
-            empties[pieces - 1] |= perhapsNone;
+            empties[pieces - 1] = empties[pieces - 1] || perhapsNone;
         }
 
         void times(int low, int high) {
@@ -1294,8 +1297,8 @@ public final class AssertionBench {
             long kept = least <= 1 ? ends : 0;
             for (int copy = 1; copy < high; copy++) {
                 copyStates(froms[r], size, size * copy);
-                addSteps(ends << size * (copy - 1), firsts[r] << size * copy);
-                kept |= copy + 1 >= least ? ends << size * copy : 0;
+                addSteps(ends << (size * (copy - 1)), firsts[r] << (size * copy));
+                kept |= copy + 1 >= least ? ends << (size * copy) : 0;
             }
             lasts[r] = kept;
             empties[r] = least == 0;
@@ -1303,7 +1306,7 @@ public final class AssertionBench {
 
         /** Copies the first piece's own steps; those behind it, to a next copy, are no steps of its own. */
         private void copyStates(int from, int size, int shift) {
-            long own = (1L << size) - 1 << from;
+            long own = ((1L << size) - 1) << from;
             for (int state = from; state < from + size; state++) {
                 heads[state + shift] = heads[state];
                 for (int to = from; to < from + size; to++) {
@@ -1342,7 +1345,7 @@ public final class AssertionBench {
                 }
             }
             firsts[r] = n > 0 ? 3L << from : 1L << from;
-            lasts[r] = waitsBehind && n > 0 ? 3L << used - 1 : 1L << used;
+            lasts[r] = waitsBehind && n > 0 ? 3L << (used - 1) : 1L << used;
             empties[r] = n == 0;
         }
 
@@ -1401,7 +1404,9 @@ public final class AssertionBench {
             if (steps.length < size) {
                 steps = new long[size];
             } else {
-                Arrays.fill(steps, 0, size, 0);
+                for (int k = 0; k < size; k++) {
+                    steps[k] = 0;
+                }
             }
         }
 
@@ -1489,12 +1494,10 @@ public final class AssertionBench {
         /** Whether a row of the sequence, perhaps of no letters, begins at i and ends at j or ahead. */
         boolean hasRow(int[] letters, int i, int j) {
             int c = 0;
-            boolean found = kinds[0] == ROWS_OF;
-            for (int place = i; place < j; place++) {
+            for (int place = i; place < j && kinds[c] != ROWS_OF; place++) {
                 c = behind(c, letters[place]);
-                found |= kinds[c] == ROWS_OF;
             }
-            return found;
+            return kinds[c] == ROWS_OF;
         }
 
         int countKinds(int least, int greatest) {
@@ -1536,7 +1539,7 @@ public final class AssertionBench {
             int unused = ~sequence.signals();
             sets[0] = Sequence.START;
             setCount = 1;
-            for (int at = 0; at < setCount; at++) {
+            for (int at = 0; at < MOST_SETS && at < setCount; at++) {
                 for (int v = 0; v < LETTERS; v++) {
                     table[at * LETTERS + v] = (v & unused) == 0
                             ? findSet(sequence.next(sets[at], v)) : table[at * LETTERS + (v & ~unused)];
@@ -1580,7 +1583,9 @@ public final class AssertionBench {
                     first++;
                 }
                 finer[at] = first;
-                split |= first != groups[at];
+                if (first != groups[at]) {
+                    split = true;
+                }
             }
             System.arraycopy(finer, 0, groups, 0, setCount);
             return split;
@@ -1605,12 +1610,16 @@ public final class AssertionBench {
             }
             // A class's number is never above its first set's, so that rows can move down in place.
             for (int at = 0; at < setCount; at++) {
-                for (int v = 0; groups[at] == at && v < LETTERS; v++) {
-                    table[finer[at] * LETTERS + v] = finer[groups[table[at * LETTERS + v]]];
-                }
                 if (groups[at] == at) {
-                    kinds[finer[at]] = kinds[at];
+                    moveDown(at, finer[at]);
                 }
+            }
+        }
+
+        private void moveDown(int at, int c) {
+            kinds[c] = kinds[at];
+            for (int v = 0; v < LETTERS; v++) {
+                table[c * LETTERS + v] = finer[groups[table[at * LETTERS + v]]];
             }
         }
     }
@@ -1759,7 +1768,9 @@ public final class AssertionBench {
         }
 
         void startRow(long[] rows, int base) {
-            Arrays.fill(rows, base, base + rowSize, 0);
+            for (int k = 0; k < rowSize; k++) {
+                rows[base + k] = 0;
+            }
             rows[base] = 1;
         }
 
@@ -1767,7 +1778,10 @@ public final class AssertionBench {
         boolean step(long[] rows, int base, int place, int letter) {
             boolean fails = false;
             for (int part = 0; part < parts; part++) {
-                fails |= stepPart(rows, base, part, place, letter);
+                // Each part takes its step, whatever has failed.
+                if (stepPart(rows, base, part, place, letter)) {
+                    fails = true;
+                }
             }
             return fails;
         }
@@ -1796,7 +1810,7 @@ public final class AssertionBench {
                     rows[child] |= hasBegun(rows[base + part], place) ? 1L << place : 0;
                     return false;
                 case NEXT:
-                    rows[child] |= begins ? 1L << place + counts[part] : 0;
+                    rows[child] |= begins ? 1L << (place + counts[part]) : 0;
                     return false;
                 default:
                     rows[child] |= begins ? 1L << place : 0;
@@ -1810,7 +1824,7 @@ public final class AssertionBench {
         }
 
         private static boolean hasBegun(long begun, int place) {
-            return (begun & (2L << place) - 1) != 0;
+            return (begun & ((2L << place) - 1)) != 0;
         }
 
         private boolean stepPlain(long[] rows, int base, int part, boolean begins, int letter) {
@@ -1825,8 +1839,9 @@ public final class AssertionBench {
             int kept = 0;
             for (int k = 0; k < open; k++) {
                 long set = sequence.next(rows[first + k], letter);
-                fails |= set == 0;
-                if (set != 0 && !sequence.accepts(set)) {
+                if (set == 0) {
+                    fails = true;
+                } else if (!sequence.accepts(set)) {
                     rows[first + kept] = set;
                     kept++;
                 }
@@ -1913,7 +1928,7 @@ public final class AssertionBench {
         }
 
         private boolean flopOf(int part, int k, long[] row, int[] letters, int length) {
-            long begun = row[part] & (1L << length) - 1;
+            long begun = row[part] & ((1L << length) - 1);
             switch (kinds[part]) {
                 case ALWAYS:
                     return begun != 0;
@@ -1925,8 +1940,8 @@ public final class AssertionBench {
                 case PLAIN:
                     return hasOpenRow(part, k, begun, letters, length);
                 case NEVER:
-                    // From the first place on at which it began each place counts, and so does the end.
-                    return hasRowOf(part, k, begun == 0 ? 0 : -Long.lowestOneBit(begun), letters, length);
+                    // From the first place on at which it began each one counts, and so does the end.
+                    return hasRowOf(part, k, begun | -begun, letters, length);
                 default:
                     return hasRowOf(part, k, begun, letters, length);
             }
@@ -1935,22 +1950,24 @@ public final class AssertionBench {
         private boolean hasOpenRow(int part, int k, long begun, int[] letters, int length) {
             Classes of = classesOf(links[part]);
             int wanted = of.ofKinds(Classes.GOING_ON, Classes.GOING_ON, k);
-            boolean found = false;
             for (int i = 0; i < length; i++) {
-                found |= isIn(begun, i) && of.ofRow(letters, i, length) == wanted
-                        && !of.hasRow(letters, i, length);
+                if (isIn(begun, i) && of.ofRow(letters, i, length) == wanted
+                        && !of.hasRow(letters, i, length)) {
+                    return true;
+                }
             }
-            return found;
+            return false;
         }
 
         private boolean hasRowOf(int part, int k, long from, int[] letters, int length) {
             Classes of = classesOf(links[part]);
             int wanted = of.ofKinds(Classes.GOING_ON, Classes.ROWS_OF, k);
-            boolean found = false;
             for (int i = 0; i <= length; i++) {
-                found |= isIn(from, i) && of.ofRow(letters, i, length) == wanted;
+                if (isIn(from, i) && of.ofRow(letters, i, length) == wanted) {
+                    return true;
+                }
             }
-            return found;
+            return false;
         }
     }
 
@@ -2065,7 +2082,7 @@ public final class AssertionBench {
                 cycle |= valueOf(signals[k]) << k;
             }
             for (int k = 0; k < latches; k++) {
-                cycle |= valueOf(nexts[k]) << SIGNALS + k;
+                cycle |= valueOf(nexts[k]) << (SIGNALS + k);
             }
             return cycle;
         }
@@ -2555,12 +2572,15 @@ public final class AssertionBench {
             int base = (depth + 1) * width;
             System.arraycopy(rows, base - width, rows, base, width);
             int cycle = cycleOf(design, latches[depth], tries[depth]);
-            letters[depth] = cycle & LETTERS - 1;
+            letters[depth] = cycle & (LETTERS - 1);
             latches[depth + 1] = cycle >> SIGNALS;
             boolean oneFails = one.step(rows, base, depth, letters[depth]);
             boolean twoFails = two.step(rows, base + one.rowSize(), depth, letters[depth]);
             // What fails stays so: with both failing no longer word can set them apart.
-            return oneFails != twoFails ? HIT : oneFails ? HOPELESS : GO_ON;
+            if (oneFails && twoFails) {
+                return HOPELESS;
+            }
+            return oneFails || twoFails ? HIT : GO_ON;
         }
 
         private int cycleOf(Design design, int latchBits, int inputBits) {

@@ -1,0 +1,138 @@
+/** Promises 5, 6 and 7: letter, clear and word; each kind of property, told by hand. */
+public final class WordTest {
+    private static final int A = 1;
+    private static final int B = 2;
+    private static final int C = 4;
+
+    public static void main(String[] args) {
+        letters();
+        conditions();
+        sequences();
+        implications();
+        times();
+        open();
+        firstFailing();
+        Check.done("WordTest");
+    }
+
+    private static void due(String answers, String property, int... word) {
+        AssertionBench bench = Text.bench(property);
+        Check.same(property, answers, Text.letters(bench, word));
+    }
+
+    private static void letters() {
+        AssertionBench bench = new AssertionBench();
+        for (int wrong : new int[] {-1, 64, 1000, Integer.MIN_VALUE, Integer.MAX_VALUE}) {
+            Check.fails("letter " + wrong, IllegalArgumentException.class, () -> bench.letter(wrong));
+        }
+        Check.same("none came", 0, bench.word(0));
+        for (int k = 0; k < 24; k++) {
+            Check.same("letter " + k, 0, bench.letter(k % 2 == 0 ? 63 : 0));
+            Check.same("length", k + 1, bench.word(0));
+        }
+        Check.fails("a 25th", UnsupportedOperationException.class, () -> bench.letter(0));
+        Check.fails("a wrong 25th", IllegalArgumentException.class, () -> bench.letter(64));
+        Check.same("still 24", 24, bench.word(0));
+        bench.clear();
+        Check.same("none", 0, bench.word(0));
+        Check.same("one again", 0, bench.letter(5));
+        bench.clear();
+        bench.clear();
+        Check.same("none still", 0, bench.word(0));
+    }
+
+    private static void conditions() {
+        due("0", "a", A);
+        due("1", "a", B);
+        due("01", "next a", B, B);
+        due("11", "0", A, A);
+        due("00", "1", 0, 0);
+        due("0", "a & b | c", C);
+        due("1", "a & b | c", A);
+        due("0", "a & !b | !c & 1", A | C);
+        due("1", "!f", 32);
+        due("0", "!f", 31);
+        due("1", "!1", 0);
+    }
+
+    private static void sequences() {
+        due("00", "{a;b}", A, B);
+        due("01", "{a;b}", A, A);
+        due("001", "{a;b;c}", A, B, B);
+        due("0000", "{a}", A, 0, 0, 0);
+        due("0000", "{a[*]}", 0, 0, 0, 0);
+        due("1", "{a[+]}", 0);
+        due("0000", "{a[->2]}", 0, 0, 0, 0);
+        due("01", "{a;0}", A, A);
+        due("00", "{a;0;a}|->b", A, A);
+        due("01", "{1:a:b ; c}", A | B, B);
+        due("1", "{a && {b;c}}", A | B);
+        due("1", "{a:b}", A);
+        due("0", "{a:b}", A | B);
+        due("011", "never {a;b}", A, B, 0);
+        due("0001", "never {a;b}", 0, 0, A, B);
+        due("0000", "never {1[*0]}", A, A, A, A);
+        due("0", "{1[*0]}", 0);
+        due("001", "{a[*2..3]}|=>b", A, A, A);
+    }
+
+    private static void implications() {
+        due("01", "{a;b}|->c", A, B);
+        due("00", "{a;b}|->c", A, B | C);
+        due("001", "{a;b}|=>c", A, B, B);
+        due("1", "{a[*]}|=>b", 0);
+        due("0", "{a[*]}|->b", 0);
+        due("01", "{a[*]}|=>b", A | B, A);
+        due("0", "a->b", 0);
+        due("1", "a->b", A);
+        due("01", "a->next b", A, A);
+        due("0001", "always a -> next[2] b", 0, A, 0, 0);
+        due("011", "{1;1}|->{a}", A, B, 0);
+    }
+
+    private static void times() {
+        due("0011", "always a", A, A, B, A);
+        due("001", "always {a;b}|=>c", A, B, A);
+        due("0001", "next[3] a", 0, 0, 0, 0);
+        due("1", "next[0] a", 0);
+        due("01", "next next[0] a", 0, 0);
+        due("0000000001", "next[9] a", 0, 0, 0, 0, 0, 0, 0, 0, 0, 0);
+        due("01", "always next a", A, 0);
+    }
+
+    private static void open() {
+        due("000", "(a until b)", A, B, 0);
+        due("01", "(a until b)", A, 0);
+        due("00", "(a until b)", B, 0);
+        due("000", "(a before b)", 0, A, B);
+        due("01", "(a before b)", 0, B);
+        due("1", "(a before b)", A | B);
+        due("01", "(a before b)", 0, A | B);
+        due("1", "(a and b)", A);
+        due("1", "(a and b)", B);
+        due("0", "(a and b)", A | B);
+        due("001", "({a;1} and {1;b;c})", A, B, B);
+        due("0001", "always ({a;b}|->c until b)", 0, A, A, B);
+    }
+
+    private static void firstFailing() {
+        AssertionBench bench = Text.bench("always a", "always b");
+        Check.same("failing", "0233", Text.letters(bench, A | B, A, 0, A | B));
+        Check.same("letters", 4, bench.word(0));
+        Check.same("property 0 with the third", 3, bench.word(1));
+        Check.same("property 1 with the second", 2, bench.word(2));
+        for (int wrong : new int[] {-1, 3, Integer.MAX_VALUE, Integer.MIN_VALUE}) {
+            Check.fails("what " + wrong, IllegalArgumentException.class, () -> bench.word(wrong));
+        }
+        bench.clear();
+        Check.same("no letters", 0, bench.word(0));
+        Check.same("not failed", 0, bench.word(1));
+        Check.same("not failed", 0, bench.word(2));
+        Check.same("as at first", "02", Text.letters(bench, A | B, A));
+        bench.search(0, 2);
+        bench.differ(2, 2);
+        bench.clear();
+        Check.same("clear leaves the run", 0, bench.run(0, 0));
+        Check.same("clear leaves the witness", 1, bench.witness(0));
+    }
+}
