@@ -11,6 +11,7 @@ public final class FaultTest {
         told();
         nested();
         great();
+        longest();
         AssertionBench bench = new AssertionBench();
         for (int seed = 0; seed < 6000; seed++) {
             Maker maker = new Maker(seed, 1 + seed % 6);
@@ -113,7 +114,23 @@ public final class FaultTest {
         due(17, "({a}and({b}and c)");
     }
 
+    /** As many tokens, parts and sequences as four hundred signs can have. */
+    private static void longest() {
+        due(-1, "!a" + "&a".repeat(199));
+        due(400, "a|".repeat(200));
+        due(-1, "1->".repeat(133) + "1");
+        due(-1, "{a}|->".repeat(66) + "{a}");
+        due(-1, "{a[=9]&&b}|->".repeat(30) + "{a}");
+        due(398, "{a}|=>".repeat(66) + "{a");
+        due(-1, "(1and".repeat(20) + "1" + ")".repeat(20));
+    }
+
     private static void great() {
+        // Weights above 1000 count as 1000: however many are multiplied, it stays too great.
+        for (int n = 1; n <= 55; n++) {
+            due(0, "{a[*9]" + "&&b[*9]".repeat(n) + "}");
+            due(0, "{a[*9]" + "&&b[*7]".repeat(n) + "}");
+        }
         due(-1, "{a[=9]&&b}");
         due(0, "{a[=9]&&b;c}");
         due(0, "{a[=9]&&b;c}}}");

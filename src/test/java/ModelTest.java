@@ -6,6 +6,9 @@ public final class ModelTest {
         for (int seed = 0; seed < 1500; seed++) {
             words(new Maker(seed, 1 + seed % 3), seed % 2 == 0 ? 6 : 14);
         }
+        for (int seed = 0; seed < 60; seed++) {
+            longWords(new Maker(30000 + seed, 1 + seed % 6));
+        }
         for (int seed = 0; seed < 1500; seed++) {
             rows(new Maker(10000 + seed, 1 + seed % 3), 4 + seed % 20);
         }
@@ -35,6 +38,18 @@ public final class ModelTest {
                 Check.same(what + " first", firstZero, bench.word(1));
                 Check.same(what + " first", firstOne, bench.word(2));
             }
+        }
+    }
+
+    /** Weights up to the greatest, and words of all the letters that there may be. */
+    private static void longWords(Maker maker) {
+        Model.Prop p = maker.propertyUpTo(5, 40, 400);
+        AssertionBench bench = Text.bench(p.text());
+        int[] word = maker.word(24);
+        for (int k = 0; k < word.length; k++) {
+            int[] sofar = Arrays.copyOf(word, k + 1);
+            String what = p.text() + " : " + Arrays.toString(sofar);
+            Check.same(what, Model.fails(p, sofar) ? 1 : 0, bench.letter(word[k]));
         }
     }
 

@@ -12,6 +12,7 @@ public final class WordTest {
         times();
         open();
         firstFailing();
+        longest();
         Check.done("WordTest");
     }
 
@@ -113,6 +114,20 @@ public final class WordTest {
         due("0", "(a and b)", A | B);
         due("001", "({a;1} and {1;b;c})", A, B, B);
         due("0001", "always ({a;b}|->c until b)", 0, A, A, B);
+    }
+
+    private static void longest() {
+        due("1", "1->".repeat(133) + "0", 0);
+        due("0", "1->".repeat(133) + "1", 0);
+        due("01", "{a}|->".repeat(65) + "next b", A, 0);
+        due("1", "{a}|->".repeat(66) + "{b}", A);
+        int[] word = new int[24];
+        due("0".repeat(15) + "1".repeat(9), "next[9] next[6] a", word);
+        due("0".repeat(23) + "1", "next[9] next[9] next[5] a", word);
+        due("0".repeat(24), "next[9] next[9] next[6] a", word);
+        due("0".repeat(24), "next[9] ".repeat(40) + "a", word);
+        due("0".repeat(23) + "1", "always {!a[*8];!a[*8];!a[*7];a}", word);
+        due("0".repeat(24), "always {a[->9] ; b[->9]}", word);
     }
 
     private static void firstFailing() {
