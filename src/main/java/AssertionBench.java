@@ -1062,8 +1062,9 @@ public final class AssertionBench {
 
     /**
      * Weaves a sequence: a stack of pieces, each with states in one common room, where a state is entered
-     * with a letter. A step from state to state stands apart from the letters that take it, as wild
-     * letters take them all.
+     * with a letter. The steps from a state (a bit for each state they lead to) stand apart from the masks
+     * of the letters that take them, as wild letters take them all. A piece is entered by its first states,
+     * with the letters of their heads, and left by its last ones.
      */
     private static final class Weaver {
         private static final int MOST_STATES = 41;
@@ -1240,7 +1241,7 @@ public final class AssertionBench {
             int s = pieces;
             int base = used + 1;
             int width = base - froms[s];
-            if (!takeRoom((froms[s] - froms[r]) * width)) {
+            if (width < 1 || !takeRoom((froms[s] - froms[r]) * width)) {
                 return;
             }
             long firstPairs = 0;
@@ -1306,11 +1307,10 @@ public final class AssertionBench {
 
         /** Copies the first piece's own steps; those behind it, to a next copy, are no steps of its own. */
         private void copyStates(int from, int size, int shift) {
-            long own = ((1L << size) - 1) << from;
             for (int state = from; state < from + size; state++) {
                 heads[state + shift] = heads[state];
                 for (int to = from; to < from + size; to++) {
-                    if (isIn(steps[state] & own, to)) {
+                    if (isIn(steps[state], to)) {
                         addStep(state + shift, to + shift, masks[state * MOST_STATES + to]);
                     }
                 }
