@@ -719,6 +719,12 @@ public final class AssertionBench {
         private static final int MOST_TURNS = 4 * MOST_SIGNS;
         private static final int MOST_WEIGHT = 40;
 
+        /** Of each signal the letters that have it, a bit each. */
+        private static final long[] LETTERS_WITH = {
+            0xAAAAAAAAAAAAAAAAL, 0xCCCCCCCCCCCCCCCCL, 0xF0F0F0F0F0F0F0F0L,
+            0xFF00FF00FF00FF00L, 0xFFFF0000FFFF0000L, 0xFFFFFFFF00000000L,
+        };
+
         private static final int BRACE = 0;
         private static final int CHAIN_RANK = 1;
         private static final int OVERLAP_RANK = 2;
@@ -1039,7 +1045,7 @@ public final class AssertionBench {
             }
             long mask = 0;
             if (tokens.now() == Tokens.SIGNAL) {
-                mask = lettersWith(tokens.low());
+                mask = LETTERS_WITH[tokens.low()];
                 signalsSeen |= 1 << tokens.low();
                 tokens.advance();
             } else if (tokens.now() == Tokens.ONE) {
@@ -1049,14 +1055,6 @@ public final class AssertionBench {
                 tokens.take(Tokens.ZERO);
             }
             return not ? ~mask : mask;
-        }
-
-        private static long lettersWith(int signal) {
-            long mask = 0;
-            for (int v = 0; v < LETTERS; v++) {
-                mask |= (long) (v >> signal & 1) << v;
-            }
-            return mask;
         }
     }
 
@@ -1068,7 +1066,8 @@ public final class AssertionBench {
      */
     private static final class Weaver {
         private static final int MOST_STATES = 41;
-        private static final int MOST_PIECES = MOST_SIGNS + 2;
+        /** A piece takes two signs with its joint. */
+        private static final int MOST_PIECES = MOST_SIGNS / 2 + 1;
         private static final int WEIGHT_CAP = 1000;
 
         private final long[] steps = new long[MOST_STATES];
@@ -1140,8 +1139,11 @@ public final class AssertionBench {
         /** Steps from the ends of one piece to the beginnings of another. */
         private void addSteps(long ends, long beginnings) {
             for (int end = 1; end <= used; end++) {
+                if (!isIn(ends, end)) {
+                    continue;
+                }
                 for (int first = 1; first <= used; first++) {
-                    if (isIn(ends, end) && isIn(beginnings, first)) {
+                    if (isIn(beginnings, first)) {
                         addStep(end, first, heads[first]);
                     }
                 }
@@ -1381,7 +1383,10 @@ public final class AssertionBench {
         }
     }
 
-    /** A sequence as it is walked: sets of states, a bit each, of which bit 0 is that of no letter yet. */
+    /**
+     * A sequence as it is walked: sets of states, a bit each, of which bit 0 is that of no letter yet. Of a
+     * letter only the signals count that the sequence has.
+     */
     private static final class Sequence {
         static final long START = 1L;
 
@@ -1400,13 +1405,10 @@ public final class AssertionBench {
             this.signals = signals;
             this.accepting = accepting;
             this.leading = leading;
-            int size = states * LETTERS;
-            if (steps.length < size) {
-                steps = new long[size];
+            if (steps.length < states * LETTERS) {
+                steps = new long[states * LETTERS];
             } else {
-                for (int k = 0; k < size; k++) {
-                    steps[k] = 0;
-                }
+                Arrays.fill(steps, 0);
             }
         }
 
@@ -1415,17 +1417,26 @@ public final class AssertionBench {
             if ((leading >>> to & 1) == 0) {
                 return;
             }
-            for (int v = 0; v < LETTERS; v++) {
+            int v = 0;
+            for (int n = letterCount(); n > 0; n--) {
                 steps[from * LETTERS + v] |= (mask >>> v & 1) << to;
+                // The next letter up that has no signals but the sequence's own.
+                v = (v - signals) & signals;
             }
+        }
+
+        int letterCount() {
+            return 1 << Integer.bitCount(signals);
         }
 
         long next(long set, int letter) {
             long behind = 0;
-            for (int state = 0; state < states; state++) {
-                if ((set >>> state & 1) != 0) {
-                    behind |= steps[state * LETTERS + letter];
-                }
+            long rest = set;
+            int at = letter & signals;
+            for (int state = 0; state < states && rest != 0; state++) {
+                behind |= (rest & 1) != 0 ? steps[at] : 0;
+                rest >>>= 1;
+                at += LETTERS;
             }
             return behind;
         }
@@ -1460,6 +1471,8 @@ public final class AssertionBench {
         private final int[] groups = new int[MOST_SETS];
         private final int[] finer = new int[MOST_SETS];
         private int[] table = NO_TABLE;
+        private int signals;
+        private int letterCount;
         private int setCount;
         private int classCount;
 
@@ -1480,7 +1493,7 @@ public final class AssertionBench {
         }
 
         int behind(int c, int letter) {
-            return table[c * LETTERS + letter];
+            return table[c * LETTERS + (letter & signals)];
         }
 
         int ofRow(int[] letters, int i, int j) {
@@ -1525,24 +1538,26 @@ public final class AssertionBench {
             if (table.length == 0) {
                 table = new int[MOST_SETS * LETTERS];
             }
+            signals = sequence.signals();
+            letterCount = sequence.letterCount();
             exploreSets(sequence);
             group();
             boolean split = true;
             for (int round = 0; round < MOST_SETS && split; round++) {
-                split = splitGroups(sequence.signals());
+                split = splitGroups();
             }
             numberGroups();
         }
 
         /** Sets are found in the order of their first rows, as letters rise and rows grow. */
         private void exploreSets(Sequence sequence) {
-            int unused = ~sequence.signals();
             sets[0] = Sequence.START;
             setCount = 1;
             for (int at = 0; at < MOST_SETS && at < setCount; at++) {
-                for (int v = 0; v < LETTERS; v++) {
-                    table[at * LETTERS + v] = (v & unused) == 0
-                            ? findSet(sequence.next(sets[at], v)) : table[at * LETTERS + (v & ~unused)];
+                int v = 0;
+                for (int n = letterCount; n > 0; n--) {
+                    table[at * LETTERS + v] = findSet(sequence.next(sets[at], v));
+                    v = (v - signals) & signals;
                 }
             }
             for (int at = 0; at < setCount; at++) {
@@ -1575,11 +1590,11 @@ public final class AssertionBench {
         }
 
         /** A group is named by its first set, so that no split changes the order of the groups. */
-        private boolean splitGroups(int signals) {
+        private boolean splitGroups() {
             boolean split = false;
             for (int at = 0; at < setCount; at++) {
                 int first = groups[at];
-                while (first < at && !isAlike(first, at, signals)) {
+                while (first < at && !isAlike(first, at)) {
                     first++;
                 }
                 finer[at] = first;
@@ -1591,11 +1606,12 @@ public final class AssertionBench {
             return split;
         }
 
-        private boolean isAlike(int one, int two, int signals) {
+        private boolean isAlike(int one, int two) {
             boolean alike = groups[one] == groups[two];
-            for (int v = 0; v < LETTERS && alike; v++) {
-                alike = (v & ~signals) != 0
-                        || groups[table[one * LETTERS + v]] == groups[table[two * LETTERS + v]];
+            int v = 0;
+            for (int n = letterCount; n > 0 && alike; n--) {
+                alike = groups[table[one * LETTERS + v]] == groups[table[two * LETTERS + v]];
+                v = (v - signals) & signals;
             }
             return alike;
         }
@@ -1618,8 +1634,10 @@ public final class AssertionBench {
 
         private void moveDown(int at, int c) {
             kinds[c] = kinds[at];
-            for (int v = 0; v < LETTERS; v++) {
+            int v = 0;
+            for (int n = letterCount; n > 0; n--) {
                 table[c * LETTERS + v] = finer[groups[table[at * LETTERS + v]]];
+                v = (v - signals) & signals;
             }
         }
     }
@@ -1643,9 +1661,10 @@ public final class AssertionBench {
         static final int BEFORE = 9;
         static final int PAIR = 10;
 
-        /** A sequence takes three signs at least, a part one. */
-        static final int MOST_SEQUENCES = MOST_SIGNS / 3 + 1;
-        static final int MOST_PARTS = MOST_SIGNS + 1;
+        /** A sequence takes three signs, and three more join it to another one. */
+        static final int MOST_SEQUENCES = (MOST_SIGNS + 3) / 6;
+        /** A part takes three signs, but for one that a ( begins, as long as that is open, and the last. */
+        static final int MOST_PARTS = MOST_SIGNS / 3 + MOST_OPEN + 2;
         static final int MOST_ROW = 2 * MOST_PARTS + MOST_LETTERS * MOST_SEQUENCES;
 
         private static final int SMALL_SEQUENCES = 4;
@@ -2134,7 +2153,8 @@ public final class AssertionBench {
     /** Reads a design text. */
     private static final class DesignReader {
         private static final int MOST_NAME = 8;
-        private static final int MOST_NAMES = MOST_SIGNS;
+        /** The shortest statement with a new name is one of an input, of eight signs. */
+        private static final int MOST_NAMES = MOST_SIGNS / 8;
 
         private final Tokens tokens;
         private final long[] names = new long[MOST_NAMES];

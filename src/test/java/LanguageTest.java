@@ -119,7 +119,8 @@ public final class LanguageTest {
         }
         Matcher called = Pattern.compile("(System|Arrays|Math|Integer|Long)\\.(\\w+)").matcher(code);
         while (called.find()) {
-            Check.holds("calls " + called.group(), List.of("System.arraycopy", "Arrays.fill", "Math.min", "Math.max")
+            Check.holds("calls " + called.group(), List.of("System.arraycopy", "Arrays.fill", "Math.min", "Math.max",
+                    "Integer.bitCount")
                     .contains(called.group()));
         }
         methodsAreShort(lines);
