@@ -12,32 +12,18 @@ public final class ClassesTest {
         Check.done("ClassesTest");
     }
 
-    /** The kinds of all classes, one sign each. */
-    private static void due(String kinds, String sequence) {
-        AssertionBench bench = Text.bench("{" + sequence + "}");
-        Check.same(sequence, kinds, kinds(bench));
-    }
-
-    private static String kinds(AssertionBench bench) {
-        StringBuilder out = new StringBuilder();
-        for (int c = 0; c < bench.classes(0); c++) {
-            out.append(bench.kind(0, c));
-        }
-        return out.toString();
-    }
-
     private static void told() {
-        due("203", "a");
-        due("203", "a|b");
-        due("30", "a[*]");
-        due("3", "1[*]");
-        due("0", "a&&{b;c}");
-        due("20", "0");
-        due("2023", "a;b");
-        due("30", "a[*0]");
-        due("23", "a[->1] ; 1[*]");
-        due("22230", "{a[->3]}");
-        due("3033", "{a[*0..2]}");
+        Due.kinds("203", "a");
+        Due.kinds("203", "a|b");
+        Due.kinds("30", "a[*]");
+        Due.kinds("3", "1[*]");
+        Due.kinds("0", "a&&{b;c}");
+        Due.kinds("20", "0");
+        Due.kinds("2023", "a;b");
+        Due.kinds("30", "a[*0]");
+        Due.kinds("23", "a[->1] ; 1[*]");
+        Due.kinds("22230", "{a[->3]}");
+        Due.kinds("3033", "{a[*0..2]}");
     }
 
     private static void numbered() {

@@ -15,84 +15,65 @@ public final class DesignTest {
         Check.done("DesignTest");
     }
 
-    private static void due(String numbers, String text) {
-        AssertionBench bench = new AssertionBench();
-        Check.same("[" + text + "]", -1, Text.readDesign(bench, text));
-        Check.same("[" + text + "]", numbers, Text.numbers(bench));
-        Check.same("the text is empty then", 0, bench.put(0));
-        Check.same("read again as numbers", -1, Text.readNumbers(bench, numbers));
-        Check.same("[" + text + "]", numbers, Text.numbers(bench));
-    }
-
     private static void readDesign() {
-        due("aag 1 1 0 6 0 2 2 2 2 2 2 2", "input x;");
-        due("aag 3 3 0 6 0 2 4 6 2 2 2 2 2 2", "input x;input y;input z;");
-        due("aag 3 1 2 6 0 2 4 4 1 6 6 0 2 2 2 2 2 2", " input x ; latch p 1 ; latch q 0 ; ");
-        due("aag 3 2 0 6 1 2 4 6 2 2 2 2 2 6 2 4", "input x;input y;signal a=x&y;");
-        due("aag 3 2 0 6 1 2 4 7 2 2 2 2 2 6 3 5", "input x;input y;signal a=x|y;");
-        due("aag 5 2 0 6 3 2 4 2 11 2 2 2 2 6 2 5 8 3 4 10 7 9", "input x;input y;signal b=x^y;");
-        due("aag 2 1 1 6 0 2 4 3 0 4 5 0 1 2 2", "input x;latch q 0;next q=!x;signal a=q;signal b=!q;signal c=0;signal d=1;");
-        due("aag 2 1 1 6 0 2 4 0 0 3 2 2 2 2 2", "input x;latch q 0;next q=1;next q=0;signal a=x;signal a=!!!x;");
+        Due.numbers("aag 1 1 0 6 0 2 2 2 2 2 2 2", "input x;");
+        Due.numbers("aag 3 3 0 6 0 2 4 6 2 2 2 2 2 2", "input x;input y;input z;");
+        Due.numbers("aag 3 1 2 6 0 2 4 4 1 6 6 0 2 2 2 2 2 2", " input x ; latch p 1 ; latch q 0 ; ");
+        Due.numbers("aag 3 2 0 6 1 2 4 6 2 2 2 2 2 6 2 4", "input x;input y;signal a=x&y;");
+        Due.numbers("aag 3 2 0 6 1 2 4 7 2 2 2 2 2 6 3 5", "input x;input y;signal a=x|y;");
+        Due.numbers("aag 5 2 0 6 3 2 4 2 11 2 2 2 2 6 2 5 8 3 4 10 7 9", "input x;input y;signal b=x^y;");
+        Due.numbers("aag 2 1 1 6 0 2 4 3 0 4 5 0 1 2 2", "input x;latch q 0;next q=!x;signal a=q;signal b=!q;signal c=0;signal d=1;");
+        Due.numbers("aag 2 1 1 6 0 2 4 0 0 3 2 2 2 2 2", "input x;latch q 0;next q=1;next q=0;signal a=x;signal a=!!!x;");
         // Gates in the order in which their second literals end, from left to right, | and ^ alike.
-        due("aag 6 2 0 6 4 2 4 13 2 2 2 2 2 6 2 4 8 3 7 10 2 2 12 8 11", "input x;input y;signal a=x|x&y|x&x;");
-        due("aag 3 2 0 6 1 2 4 6 7 2 2 2 2 6 2 4", "input x;input y;wire w=x&y;signal a=w;signal b=!w;");
-        due("aag 5 3 0 6 2 2 4 6 10 2 2 2 2 2 8 4 6 10 2 8", "input x;input y;input z;signal a=x&(y&z);");
+        Due.numbers("aag 6 2 0 6 4 2 4 13 2 2 2 2 2 6 2 4 8 3 7 10 2 2 12 8 11", "input x;input y;signal a=x|x&y|x&x;");
+        Due.numbers("aag 3 2 0 6 1 2 4 6 7 2 2 2 2 6 2 4", "input x;input y;wire w=x&y;signal a=w;signal b=!w;");
+        Due.numbers("aag 5 3 0 6 2 2 4 6 10 2 2 2 2 2 8 4 6 10 2 8", "input x;input y;input z;signal a=x&(y&z);");
         // A signal's letter may be a name, and names may be such words as the signals' statements have.
-        due("aag 1 1 0 6 0 2 3 2 2 2 2 2", "input a;signal a=!a;");
-        due("aag 2 1 0 6 1 2 2 2 2 2 2 5 4 0 1", "input abcdefgh;wire f=0&1;signal f=!f;");
-    }
-
-    private static void fault(int place, String text) {
-        AssertionBench bench = new AssertionBench();
-        Text.readDesign(bench, "input x;input y;latch q 1;signal c=q&y;");
-        String before = Text.numbers(bench);
-        bench.search(0, 1);
-        Check.same("[" + text + "]", place, Text.readDesign(bench, text));
-        Check.same("nothing has changed", before, Text.numbers(bench));
-        Check.same("the text is empty then", 0, bench.put(0));
+        Due.numbers("aag 1 1 0 6 0 2 3 2 2 2 2 2", "input a;signal a=!a;");
+        Due.numbers("aag 2 1 0 6 1 2 2 2 2 2 2 5 4 0 1", "input abcdefgh;wire f=0&1;signal f=!f;");
     }
 
     private static void designFaults() {
-        fault(0, "");
-        fault(0, "latch q 0;");
-        fault(8, "input x ");
-        fault(6, "input input;");
-        fault(6, "input 0;");
-        fault(6, "input abcdefghi;");
-        fault(14, "input x;input x;");
-        fault(24, "input x;input y;input z;input u;");
-        fault(16, "input x;latch p 2;");
-        fault(17, "input x;latch p 01;");
-        fault(19, "input x;latch p 0; input y;");
-        fault(63, "input x; latch p 0;latch q 0;latch r 0;latch s 0;latch t 0;    latch u 0;");
-        fault(8, "input x;signl a=x;");
-        fault(15, "input x;signal g=x;");
-        fault(15, "input x;signal aa=x;");
-        fault(13, "input x;next x=x;");
-        fault(13, "input x;next q=x;");
-        fault(13, "input x;wire x=x;");
-        fault(13, "input x;wire next=x;");
-        fault(15, "input x;wire w=w;");
-        fault(22, "input x;wire w=0;wire w=1;");
-        fault(17, "input x;signal a=y;");
-        fault(18, "input x;signal a=x!x;");
-        fault(18, "input x;signal a=x");
-        fault(18, "input x;signal a=x)");
-        fault(20, "input x;signal a=x &");
-        fault(17, "input x;signal a=+x;");
-        fault(37, "input x;signal a=" + "(".repeat(21) + "x" + ")".repeat(21) + ";");
+        Due.designFault(0, "");
+        Due.designFault(0, "latch q 0;");
+        Due.designFault(8, "input x ");
+        Due.designFault(6, "input input;");
+        Due.designFault(6, "input 0;");
+        Due.designFault(6, "input abcdefghi;");
+        Due.designFault(14, "input x;input x;");
+        Due.designFault(24, "input x;input y;input z;input u;");
+        Due.designFault(16, "input x;latch p 2;");
+        Due.designFault(17, "input x;latch p 01;");
+        Due.designFault(19, "input x;latch p 0; input y;");
+        Due.designFault(63, "input x; latch p 0;latch q 0;latch r 0;latch s 0;latch t 0;    latch u 0;");
+        Due.designFault(8, "input x;signl a=x;");
+        Due.designFault(15, "input x;signal g=x;");
+        Due.designFault(15, "input x;signal aa=x;");
+        Due.designFault(13, "input x;next x=x;");
+        Due.designFault(13, "input x;next q=x;");
+        Due.designFault(13, "input x;wire x=x;");
+        Due.designFault(13, "input x;wire next=x;");
+        Due.designFault(15, "input x;wire w=w;");
+        Due.designFault(22, "input x;wire w=0;wire w=1;");
+        Due.designFault(17, "input x;signal a=y;");
+        Due.designFault(18, "input x;signal a=x!x;");
+        Due.designFault(18, "input x;signal a=x");
+        Due.designFault(18, "input x;signal a=x)");
+        Due.designFault(20, "input x;signal a=x &");
+        Due.designFault(17, "input x;signal a=+x;");
+        Due.designFault(37, "input x;signal a=" + "(".repeat(21) + "x" + ")".repeat(21) + ";");
         String most = "input x;signal a=x" + "^x".repeat(20);
-        fault(most.length(), most);
-        fault(most.length(), most + "^x;");
-        fault(most.length(), most + "|x;");
-        fault(most.length(), most + "|x#");
-        fault(most.length(), most + "|x");
-        fault(most.length() + 1, most + "^#");
+        Due.designFault(most.length(), most);
+        Due.designFault(most.length(), most + "^x;");
+        Due.designFault(most.length(), most + "|x;");
+        Due.designFault(most.length(), most + "|x#");
+        Due.designFault(most.length(), most + "|x");
+        Due.designFault(most.length() + 1, most + "^#");
         // Of one within another that within.
-        fault(most.length() + 3, most + "|(x&x);");
+        Due.designFault(most.length() + 3, most + "|(x&x);");
         // 58 gates leave room for no ^, which takes three.
         String near = "input x;signal a=x" + "^x".repeat(19) + "&x;signal b=x";
-        fault(near.length(), near + "^x;");
+        Due.designFault(near.length(), near + "^x;");
         AssertionBench bench = new AssertionBench();
         Check.same("twenty ( may be open", -1,
                 Text.readDesign(bench, "input x;signal a=" + "(".repeat(20) + "x" + ")".repeat(20) + ";"));
@@ -115,46 +96,37 @@ public final class DesignTest {
         }
     }
 
-    private static void numberFault(int place, String text) {
-        AssertionBench bench = new AssertionBench();
-        Text.readDesign(bench, "input x;latch q 1;signal c=q&x;");
-        String before = Text.numbers(bench);
-        Check.same("[" + text + "]", place, Text.readNumbers(bench, text));
-        Check.same("nothing has changed", before, Text.numbers(bench));
-        Check.same("the text is empty then", 0, bench.put(0));
-    }
-
     private static void numberFaults() {
-        numberFault(0, "");
-        numberFault(0, "aa");
-        numberFault(0, "1 1 0 6 0");
-        numberFault(3, "aag");
-        numberFault(3, "aagx");
-        numberFault(3, "aagaag");
-        numberFault(4, "aag 0 1 0 6 0 2 2 2 2 2 2 2");
-        numberFault(4, "aag 69 3 5 6 61");
-        numberFault(4, "aag 00001 1 0 6 0 2 2 2 2 2 2 2");
-        numberFault(6, "aag 1 0 0 6 1 2 2 2 2 2 2 2");
-        numberFault(6, "aag 5 4 0 6 1 2 2 2 2 2 2 2");
-        numberFault(8, "aag 9 1 6 6 2 2 2 2 2 2 2 2");
-        numberFault(10, "aag 1 1 0 5 0 2 2 2 2 2 2 2");
-        numberFault(12, "aag 1 1 0 6 1 2 2 2 2 2 2 2");
-        numberFault(12, "aag 1 2 0 6 0 2 4 2 2 2 2 2 2");
-        numberFault(13, "aag 68 1 0 6 67 2");
-        numberFault(13, "aag 68 1 0 6 60 2");
-        numberFault(13, "aag 62 1 0 6 x");
-        numberFault(12, "aag 62 1 0 6");
-        numberFault(14, "aag 1 1 0 6 0 3 2 2 2 2 2 2");
-        numberFault(14, "aag 1 1 0 6 0 -2 2 2 2 2 2");
-        numberFault(16, "aag 1 1 0 6 0 2 4 2 2 2 2 2");
-        numberFault(25, "aag 1 1 0 6 0 2 2 2 2 2 2");
-        numberFault(28, "aag 1 1 0 6 0 2 2 2 2 2 2 2 2");
-        numberFault(16, "aag 2 1 1 6 0 2 6 4 0 2 2 2 2 2 2");
-        numberFault(18, "aag 2 1 1 6 0 2 4 6 0 2 2 2 2 2 2");
-        numberFault(20, "aag 2 1 1 6 0 2 4 5 2 2 2 2 2 2 2");
-        numberFault(28, "aag 2 1 0 6 1 2 2 2 2 2 2 2 6 2 2");
-        numberFault(30, "aag 2 1 0 6 1 2 2 2 2 2 2 2 4 4 2");
-        numberFault(32, "aag 2 1 0 6 1 2 2 2 2 2 2 2 4 2 4");
+        Due.numbersFault(0, "");
+        Due.numbersFault(0, "aa");
+        Due.numbersFault(0, "1 1 0 6 0");
+        Due.numbersFault(3, "aag");
+        Due.numbersFault(3, "aagx");
+        Due.numbersFault(3, "aagaag");
+        Due.numbersFault(4, "aag 0 1 0 6 0 2 2 2 2 2 2 2");
+        Due.numbersFault(4, "aag 69 3 5 6 61");
+        Due.numbersFault(4, "aag 00001 1 0 6 0 2 2 2 2 2 2 2");
+        Due.numbersFault(6, "aag 1 0 0 6 1 2 2 2 2 2 2 2");
+        Due.numbersFault(6, "aag 5 4 0 6 1 2 2 2 2 2 2 2");
+        Due.numbersFault(8, "aag 9 1 6 6 2 2 2 2 2 2 2 2");
+        Due.numbersFault(10, "aag 1 1 0 5 0 2 2 2 2 2 2 2");
+        Due.numbersFault(12, "aag 1 1 0 6 1 2 2 2 2 2 2 2");
+        Due.numbersFault(12, "aag 1 2 0 6 0 2 4 2 2 2 2 2 2");
+        Due.numbersFault(13, "aag 68 1 0 6 67 2");
+        Due.numbersFault(13, "aag 68 1 0 6 60 2");
+        Due.numbersFault(13, "aag 62 1 0 6 x");
+        Due.numbersFault(12, "aag 62 1 0 6");
+        Due.numbersFault(14, "aag 1 1 0 6 0 3 2 2 2 2 2 2");
+        Due.numbersFault(14, "aag 1 1 0 6 0 -2 2 2 2 2 2");
+        Due.numbersFault(16, "aag 1 1 0 6 0 2 4 2 2 2 2 2");
+        Due.numbersFault(25, "aag 1 1 0 6 0 2 2 2 2 2 2");
+        Due.numbersFault(28, "aag 1 1 0 6 0 2 2 2 2 2 2 2 2");
+        Due.numbersFault(16, "aag 2 1 1 6 0 2 6 4 0 2 2 2 2 2 2");
+        Due.numbersFault(18, "aag 2 1 1 6 0 2 4 6 0 2 2 2 2 2 2");
+        Due.numbersFault(20, "aag 2 1 1 6 0 2 4 5 2 2 2 2 2 2 2");
+        Due.numbersFault(28, "aag 2 1 0 6 1 2 2 2 2 2 2 2 6 2 2");
+        Due.numbersFault(30, "aag 2 1 0 6 1 2 2 2 2 2 2 2 4 4 2");
+        Due.numbersFault(32, "aag 2 1 0 6 1 2 2 2 2 2 2 2 4 2 4");
     }
 
     private static void numbers() {
@@ -190,18 +162,13 @@ public final class DesignTest {
         }
     }
 
-    private static int designed(AssertionBench bench, int inputs, int latches) {
-        bench.design(inputs, latches);
-        return 0;
-    }
-
     private static void design() {
         AssertionBench bench = new AssertionBench();
         Text.readDesign(bench, "input x;latch p 1;next p=!p;signal a=x&p;");
         String before = Text.numbers(bench);
         int[][] wrong = {{0, 0}, {4, 0}, {1, -1}, {1, 6}, {-1, 2}, {Integer.MAX_VALUE, 0}, {1, Integer.MIN_VALUE}};
         for (int[] w : wrong) {
-            Check.fails("design", IllegalArgumentException.class, () -> designed(bench, w[0], w[1]));
+            Check.refuses("design", IllegalArgumentException.class, () -> bench.design(w[0], w[1]));
         }
         Check.same("nothing has changed", before, Text.numbers(bench));
         bench.design(1, 1);
@@ -233,14 +200,9 @@ public final class DesignTest {
         Check.same("sixty", 60, bench.has(2));
     }
 
-    private static int latched(AssertionBench bench, int k, int next) {
-        bench.latch(k, next, true);
-        return 0;
-    }
-
     private static void latch() {
         AssertionBench bench = new AssertionBench();
-        Check.fails("no latches", IllegalArgumentException.class, () -> latched(bench, 0, 2));
+        Check.refuses("no latches", IllegalArgumentException.class, () -> bench.latch(0, 2, true));
         bench.design(1, 2);
         bench.latch(1, 3, true);
         bench.latch(0, 7, false);
@@ -248,17 +210,12 @@ public final class DesignTest {
         Check.same("as numbers", "aag 3 1 2 6 0 2 4 7 0 6 3 1 2 2 2 2 2 2", before);
         int[][] wrong = {{2, 0}, {-1, 0}, {0, 8}, {0, -1}, {Integer.MAX_VALUE, 0}, {0, Integer.MAX_VALUE}};
         for (int[] w : wrong) {
-            Check.fails("latch", IllegalArgumentException.class, () -> latched(bench, w[0], w[1]));
+            Check.refuses("latch", IllegalArgumentException.class, () -> bench.latch(w[0], w[1], true));
         }
         Check.same("nothing has changed", before, Text.numbers(bench));
         bench.gate(2, 2);
         bench.latch(1, 9, false);
         Check.same("of a gate", "aag 4 1 2 6 1 2 4 7 0 6 9 0 2 2 2 2 2 2 8 2 2", Text.numbers(bench));
-    }
-
-    private static int signalled(AssertionBench bench, int k, int literal) {
-        bench.signal(k, literal);
-        return 0;
     }
 
     private static void signal() {
@@ -270,7 +227,7 @@ public final class DesignTest {
         Check.same("as numbers", "aag 1 1 0 6 0 2 3 2 2 1 2 0", before);
         int[][] wrong = {{6, 0}, {-1, 0}, {0, 4}, {0, -1}, {Integer.MIN_VALUE, 0}, {0, Integer.MAX_VALUE}};
         for (int[] w : wrong) {
-            Check.fails("signal", IllegalArgumentException.class, () -> signalled(bench, w[0], w[1]));
+            Check.refuses("signal", IllegalArgumentException.class, () -> bench.signal(w[0], w[1]));
         }
         Check.same("nothing has changed", before, Text.numbers(bench));
         bench.gate(3, 3);
@@ -299,10 +256,10 @@ public final class DesignTest {
                 case 3 -> bench.signal(0, 2);
                 case 4 -> Text.readDesign(bench, "input x;");
                 case 5 -> Text.readNumbers(bench, "aag 1 1 0 6 0 2 2 2 2 2 2 2");
-                case 6 -> Check.fails("design", IllegalArgumentException.class, () -> designed(bench, 0, 0));
+                case 6 -> Check.refuses("design", IllegalArgumentException.class, () -> bench.design(0, 0));
                 case 7 -> Check.fails("gate", IllegalArgumentException.class, () -> bench.gate(0, 6));
-                case 8 -> Check.fails("latch", IllegalArgumentException.class, () -> latched(bench, 1, 0));
-                case 9 -> Check.fails("signal", IllegalArgumentException.class, () -> signalled(bench, 0, 6));
+                case 8 -> Check.refuses("latch", IllegalArgumentException.class, () -> bench.latch(1, 0, true));
+                case 9 -> Check.refuses("signal", IllegalArgumentException.class, () -> bench.signal(0, 6));
                 case 10 -> Text.readDesign(bench, "input x");
                 default -> Text.readNumbers(bench, "aag 1");
             }

@@ -29,12 +29,6 @@ public final class FaultTest {
         Check.same("[" + text + "]", FaultModel.fault(text), Text.read(bench, 0, text));
     }
 
-    private static void due(int fault, String text) {
-        AssertionBench bench = new AssertionBench();
-        Check.same("[" + text + "]", fault, Text.read(bench, 1, text));
-        Check.same("the model's fault of [" + text + "]", fault, FaultModel.fault(text));
-    }
-
     private static String changed(Maker maker, String text) {
         int at = maker.below(text.length() + 1);
         int out = Math.min(text.length(), at + maker.below(3));
@@ -51,106 +45,106 @@ public final class FaultTest {
     }
 
     private static void told() {
-        due(-1, "a");
-        due(-1, " a ");
-        due(0, "");
-        due(3, "   ");
-        due(2, "a b");
-        due(0, "ab");
-        due(0, "g");
-        due(0, "alwaysa");
-        due(-1, "always a");
-        due(-1, "always!a");
-        due(1, "!!a");
-        due(2, "(a)");
-        due(1, "(");
-        due(2, "a|");
-        due(1, "a||b");
-        due(-1, "{a||b}");
-        due(-1, "{a|b[*]}");
-        due(5, "{a[*][*]}");
-        due(2, "{a[*3..2]}");
-        due(-1, "{a[*2..2]}");
-        due(2, "{a[->0]}");
-        due(-1, "{a[=0]}");
-        due(4, "{{a}[=1]}");
-        due(4, "{{a}[->1]}");
-        due(-1, "{{a}[*0]}");
-        due(1, "{}");
-        due(0, "[*]");
-        due(1, "a[*]");
-        due(2, "{a[*10]}");
-        due(2, "{a[ *]}");
-        due(9, "never {a}|->b");
-        due(6, "never a");
-        due(-1, "next [0] a");
-        due(-1, "next[9]a");
-        due(5, "next [10] a");
-        due(7, "always [1] a");
-        due(-1, "(a before b)");
-        due(10, "(always a before b)");
-        due(5, "({a} before b)");
-        due(6, "(a->b before c)");
-        due(-1, "(a->b until c)");
-        due(-1, "(always (a and {b}) until c)");
-        due(10, "(a before {b})");
-        due(9, "(a until (b and c))");
-        due(-1, "a->b->c");
-        due(-1, "{a}|->{b}|=>c->d");
-        due(3, "a->");
-        due(1, "a{b}");
-        due(1, "a#");
-        due(1, "a-b");
+        Due.fault(-1, "a");
+        Due.fault(-1, " a ");
+        Due.fault(0, "");
+        Due.fault(3, "   ");
+        Due.fault(2, "a b");
+        Due.fault(0, "ab");
+        Due.fault(0, "g");
+        Due.fault(0, "alwaysa");
+        Due.fault(-1, "always a");
+        Due.fault(-1, "always!a");
+        Due.fault(1, "!!a");
+        Due.fault(2, "(a)");
+        Due.fault(1, "(");
+        Due.fault(2, "a|");
+        Due.fault(1, "a||b");
+        Due.fault(-1, "{a||b}");
+        Due.fault(-1, "{a|b[*]}");
+        Due.fault(5, "{a[*][*]}");
+        Due.fault(2, "{a[*3..2]}");
+        Due.fault(-1, "{a[*2..2]}");
+        Due.fault(2, "{a[->0]}");
+        Due.fault(-1, "{a[=0]}");
+        Due.fault(4, "{{a}[=1]}");
+        Due.fault(4, "{{a}[->1]}");
+        Due.fault(-1, "{{a}[*0]}");
+        Due.fault(1, "{}");
+        Due.fault(0, "[*]");
+        Due.fault(1, "a[*]");
+        Due.fault(2, "{a[*10]}");
+        Due.fault(2, "{a[ *]}");
+        Due.fault(9, "never {a}|->b");
+        Due.fault(6, "never a");
+        Due.fault(-1, "next [0] a");
+        Due.fault(-1, "next[9]a");
+        Due.fault(5, "next [10] a");
+        Due.fault(7, "always [1] a");
+        Due.fault(-1, "(a before b)");
+        Due.fault(10, "(always a before b)");
+        Due.fault(5, "({a} before b)");
+        Due.fault(6, "(a->b before c)");
+        Due.fault(-1, "(a->b until c)");
+        Due.fault(-1, "(always (a and {b}) until c)");
+        Due.fault(10, "(a before {b})");
+        Due.fault(9, "(a until (b and c))");
+        Due.fault(-1, "a->b->c");
+        Due.fault(-1, "{a}|->{b}|=>c->d");
+        Due.fault(3, "a->");
+        Due.fault(1, "a{b}");
+        Due.fault(1, "a#");
+        Due.fault(1, "a-b");
     }
 
     private static void nested() {
         String most = "(".repeat(19) + "{a}" + " and b)".repeat(19);
-        due(-1, most);
-        due(20, "(".repeat(21) + "a" + " and b)".repeat(21));
-        due(-1, "(".repeat(20) + "a" + " and b)".repeat(20));
-        due(20, "(".repeat(20) + "{a}" + " and b)".repeat(20));
-        due(-1, "{".repeat(20) + "a" + "}".repeat(20));
-        due(20, "{".repeat(21) + "a" + "}".repeat(21));
-        due(17, "({a}and({b}and c)");
+        Due.fault(-1, most);
+        Due.fault(20, "(".repeat(21) + "a" + " and b)".repeat(21));
+        Due.fault(-1, "(".repeat(20) + "a" + " and b)".repeat(20));
+        Due.fault(20, "(".repeat(20) + "{a}" + " and b)".repeat(20));
+        Due.fault(-1, "{".repeat(20) + "a" + "}".repeat(20));
+        Due.fault(20, "{".repeat(21) + "a" + "}".repeat(21));
+        Due.fault(17, "({a}and({b}and c)");
     }
 
     /** As many tokens, parts and sequences as four hundred signs can have. */
     private static void longest() {
-        due(-1, "!a" + "&a".repeat(199));
-        due(400, "a|".repeat(200));
-        due(-1, "1->".repeat(133) + "1");
-        due(-1, "{a}|->".repeat(66) + "{a}");
-        due(-1, "{a[=9]&&b}|->".repeat(30) + "{a}");
-        due(398, "{a}|=>".repeat(66) + "{a");
-        due(-1, "(1and".repeat(20) + "1" + ")".repeat(20));
+        Due.fault(-1, "!a" + "&a".repeat(199));
+        Due.fault(400, "a|".repeat(200));
+        Due.fault(-1, "1->".repeat(133) + "1");
+        Due.fault(-1, "{a}|->".repeat(66) + "{a}");
+        Due.fault(-1, "{a[=9]&&b}|->".repeat(30) + "{a}");
+        Due.fault(398, "{a}|=>".repeat(66) + "{a");
+        Due.fault(-1, "(1and".repeat(20) + "1" + ")".repeat(20));
     }
 
     private static void great() {
         // Weights above 1000 count as 1000: however many are multiplied, it stays too great.
         for (int n = 1; n <= 55; n++) {
-            due(0, "{a[*9]" + "&&b[*9]".repeat(n) + "}");
-            due(0, "{a[*9]" + "&&b[*7]".repeat(n) + "}");
+            Due.fault(0, "{a[*9]" + "&&b[*9]".repeat(n) + "}");
+            Due.fault(0, "{a[*9]" + "&&b[*7]".repeat(n) + "}");
         }
-        due(-1, "{a[=9]&&b}");
-        due(0, "{a[=9]&&b;c}");
-        due(0, "{a[=9]&&b;c}}}");
-        due(-1, "{{a;b;c;d;e}[*8]}");
-        due(0, "{{a;b;c;d;e}[*8];a}");
-        due(-1, "{{{a;b;c;d;e}[*8]}[+]}");
-        due(3, "a->{{a;b;c;d;e}[*9]}$");
-        due(12, "{{a;b;c;d;e}$[*9]}");
-        due(0, "{{{{{a[*9]}[*9]}[*9]}[*9]}[*9]}");
-        due(6, "never {{a[*9]}[*0..5]}");
-        due(-1, "never {{a[*9]}[*0..4]}");
-        due(-1, "{{a[*9]}[*4]}");
-        due(-1, "{{a[*9]}[*4] || b[*0] || c[*3]}");
-        due(0, "{{a[*9]}[*4] || b[*0] || c[*4]}");
-        due(0, "{a[->9] ; b[->9] ; c[->3]}");
-        due(-1, "{a[->9] ; b[->9] ; c[->2]}");
-        due(0, "{a[->9] ; b[->9] ; c[=2]}");
-        due(-1, "{a&&b&&c&&d}");
-        due(0, "{a&&b&&c&&d&&e}");
-        due(-1, "{a&&b&&c || a&&b&&c || a&&b&&c || a&&b&&c}");
-        due(0, "{a&&b&&c || a&&b&&c || a&&b&&c || a&&b&&c : d}");
+        Due.fault(-1, "{a[=9]&&b}");
+        Due.fault(0, "{a[=9]&&b;c}");
+        Due.fault(0, "{a[=9]&&b;c}}}");
+        Due.fault(-1, "{{a;b;c;d;e}[*8]}");
+        Due.fault(0, "{{a;b;c;d;e}[*8];a}");
+        Due.fault(-1, "{{{a;b;c;d;e}[*8]}[+]}");
+        Due.fault(3, "a->{{a;b;c;d;e}[*9]}$");
+        Due.fault(12, "{{a;b;c;d;e}$[*9]}");
+        Due.fault(0, "{{{{{a[*9]}[*9]}[*9]}[*9]}[*9]}");
+        Due.fault(6, "never {{a[*9]}[*0..5]}");
+        Due.fault(-1, "never {{a[*9]}[*0..4]}");
+        Due.fault(-1, "{{a[*9]}[*4]}");
+        Due.fault(-1, "{{a[*9]}[*4] || b[*0] || c[*3]}");
+        Due.fault(0, "{{a[*9]}[*4] || b[*0] || c[*4]}");
+        Due.fault(0, "{a[->9] ; b[->9] ; c[->3]}");
+        Due.fault(-1, "{a[->9] ; b[->9] ; c[->2]}");
+        Due.fault(0, "{a[->9] ; b[->9] ; c[=2]}");
+        Due.fault(-1, "{a&&b&&c&&d}");
+        Due.fault(0, "{a&&b&&c&&d&&e}");
+        Due.fault(-1, "{a&&b&&c || a&&b&&c || a&&b&&c || a&&b&&c}");
+        Due.fault(0, "{a&&b&&c || a&&b&&c || a&&b&&c || a&&b&&c : d}");
     }
 }

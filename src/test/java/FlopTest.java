@@ -12,52 +12,37 @@ public final class FlopTest {
         Check.done("FlopTest");
     }
 
-    /** All flip-flops behind each letter, from none on. */
-    private static void due(String property, int[] word, String... flops) {
-        AssertionBench bench = Text.bench("1", property);
-        for (int k = 0; k <= word.length; k++) {
-            StringBuilder out = new StringBuilder();
-            for (int f = 0; f < bench.flops(1); f++) {
-                out.append(bench.flop(1, f) ? '1' : '0');
-            }
-            Check.same(property + " behind " + k + " letters", flops[k], out.toString());
-            if (k < word.length) {
-                bench.letter(word[k]);
-            }
-        }
-    }
-
     private static int[] word(int... letters) {
         return letters;
     }
 
     private static void told() {
-        due("1", word(A), "10", "00");
-        due("a", word(0, A), "10", "01", "01");
-        due("always a", word(A, 0), "100", "010", "011");
-        due("a -> always b", word(0, A), "100", "000", "000");
-        due("a -> always b", word(A | B, A), "100", "010", "011");
-        due("next a", word(0, 0), "100", "010", "001");
-        due("next[0] a", word(0), "10", "01");
-        due("next[3] a", word(0, 0, 0, 0), "10000", "01000", "00100", "00010", "00001");
-        due("always next[2] a", word(0, 0, A), "10000", "01100", "01110", "01110");
-        due("(a until b)", word(A, B, A), "100", "010", "000", "000");
-        due("(a before b)", word(0, A, B), "100", "010", "000", "000");
-        due("(a before b)", word(B, A), "100", "011", "001");
-        due("(a and next b)", word(A, A), "100", "010", "001");
+        Due.flops("1", word(A), "10", "00");
+        Due.flops("a", word(0, A), "10", "01", "01");
+        Due.flops("always a", word(A, 0), "100", "010", "011");
+        Due.flops("a -> always b", word(0, A), "100", "000", "000");
+        Due.flops("a -> always b", word(A | B, A), "100", "010", "011");
+        Due.flops("next a", word(0, 0), "100", "010", "001");
+        Due.flops("next[0] a", word(0), "10", "01");
+        Due.flops("next[3] a", word(0, 0, 0, 0), "10000", "01000", "00100", "00010", "00001");
+        Due.flops("always next[2] a", word(0, 0, A), "10000", "01100", "01110", "01110");
+        Due.flops("(a until b)", word(A, B, A), "100", "010", "000", "000");
+        Due.flops("(a before b)", word(0, A, B), "100", "010", "000", "000");
+        Due.flops("(a before b)", word(B, A), "100", "011", "001");
+        Due.flops("(a and next b)", word(A, A), "100", "010", "001");
         // {a;b} has the classes of no letters, the dead one, a, and a b: two go on and are no rows.
-        due("{a;b}", word(A, B, A), "1000", "0010", "0000", "0000");
-        due("{a;b}", word(B), "1000", "0001");
-        due("always {a;b}", word(A, A | B, 0), "10000", "01010", "01010", "01001");
+        Due.flops("{a;b}", word(A, B, A), "1000", "0010", "0000", "0000");
+        Due.flops("{a;b}", word(B), "1000", "0001");
+        Due.flops("always {a;b}", word(A, A | B, 0), "10000", "01010", "01010", "01001");
         // {a}|->p has two classes that go on: that of no letters, and that of a.
-        due("{a}|->b", word(A, B), "1000", "0011", "0001");
-        due("{a}|->b", word(A | B, B), "1000", "0010", "0000");
-        due("{a[*]}|=>b", word(A | B, A | B, B), "100", "010", "010", "000");
+        Due.flops("{a}|->b", word(A, B), "1000", "0011", "0001");
+        Due.flops("{a}|->b", word(A | B, B), "1000", "0010", "0000");
+        Due.flops("{a[*]}|=>b", word(A | B, A | B, B), "100", "010", "010", "000");
         // Of never each place counts, and the row of no letters behind the last one.
-        due("never {a;b}", word(0, A, B), "10000", "01000", "01100", "01011");
-        due("next never {a;b}", word(A, A, B), "100000", "010000", "001100", "001011");
-        due("a -> never {b}", word(0, 0), "1000", "0000", "0000");
-        due("{b[*]}", word(0), "10", "00");
+        Due.flops("never {a;b}", word(0, A, B), "10000", "01000", "01100", "01011");
+        Due.flops("next never {a;b}", word(A, A, B), "100000", "010000", "001100", "001011");
+        Due.flops("a -> never {b}", word(0, 0), "1000", "0000", "0000");
+        Due.flops("{b[*]}", word(0), "10", "00");
     }
 
     private static void small() {

@@ -83,12 +83,8 @@ public final class ModelTest {
         int[] word = maker.word(maker.below(8));
         for (int k = 0; k <= word.length; k++) {
             String due = new Model.Word(Arrays.copyOf(word, k)).flops(p);
-            StringBuilder answer = new StringBuilder();
             int count = bench.flops(0);
-            for (int f = 0; f < count; f++) {
-                answer.append(bench.flop(0, f) ? '1' : '0');
-            }
-            Check.same(p.text() + " : " + Arrays.toString(Arrays.copyOf(word, k)), due, answer.toString());
+            Check.same(p.text() + " : " + Arrays.toString(Arrays.copyOf(word, k)), due, Text.flops(bench, 0));
             Check.fails("one flip-flop more", java.util.NoSuchElementException.class, () -> bench.flop(0, count));
             if (k < word.length) {
                 bench.letter(word[k]);

@@ -11,64 +11,56 @@ public final class RowTest {
         Check.done("RowTest");
     }
 
-    /** Whether the whole word is a row, and whether it goes on. */
-    private static void due(boolean of, boolean goes, String sequence, int... word) {
-        AssertionBench bench = Text.bench("1", "{" + sequence + "}");
-        Text.letters(bench, word);
-        Check.same(sequence + " row", of, bench.row(1, 0, word.length));
-        Check.same(sequence + " goes on", goes, bench.goesOn(1, 0, word.length));
-    }
-
     private static void rows() {
-        due(false, true, "a");
-        due(true, true, "a", A);
-        due(false, false, "a", B);
-        due(false, false, "a", A, A);
-        due(true, true, "a;b", A, B);
-        due(false, true, "a;b", A);
-        due(true, true, "a:b", A | B);
-        due(false, false, "a:b", A);
-        due(true, true, "{a;b}:{b;a}", A, B, A);
-        due(true, true, "a[*]");
-        due(true, true, "a[*]", A, A, A);
-        due(false, true, "a[+]");
-        due(true, true, "a[*0]");
-        due(false, false, "a[*0]", A);
-        due(false, true, "a[*2]", A);
-        due(true, true, "a[*1..2]", A);
-        due(true, true, "a[*1..2]", A, A);
-        due(false, false, "a[*1..2]", A, A, A);
-        due(true, true, "{a[*]}[*2]");
-        due(true, true, "a[->2]", 0, A, 0, A);
-        due(false, false, "a[->2]", 0, A, 0, A, 0);
-        due(false, true, "a[->2]", 0, A, 0);
-        due(true, true, "a[=1]", 0, A, 0);
-        due(false, false, "a[=1]", A, 0, A);
-        due(true, true, "a[=0]");
-        due(true, true, "a[=0]", 0, B);
-        due(false, false, "a[=0]", 0, A);
-        due(true, true, "a|b[*]", A, B, A);
-        due(true, true, "a ; b || a && b", A, A | B);
-        due(true, true, "a;b:a;b", A, A | B, B);
-        due(false, true, "{a;b}&&{1[*2]}", A);
-        due(true, true, "{a;b}&&{1[*2]}", A, B);
-        due(true, true, "{a[*]}[+]");
-        due(true, true, "{a;b}[*0..2]", A, B, A, B);
+        Due.row(false, true, "a");
+        Due.row(true, true, "a", A);
+        Due.row(false, false, "a", B);
+        Due.row(false, false, "a", A, A);
+        Due.row(true, true, "a;b", A, B);
+        Due.row(false, true, "a;b", A);
+        Due.row(true, true, "a:b", A | B);
+        Due.row(false, false, "a:b", A);
+        Due.row(true, true, "{a;b}:{b;a}", A, B, A);
+        Due.row(true, true, "a[*]");
+        Due.row(true, true, "a[*]", A, A, A);
+        Due.row(false, true, "a[+]");
+        Due.row(true, true, "a[*0]");
+        Due.row(false, false, "a[*0]", A);
+        Due.row(false, true, "a[*2]", A);
+        Due.row(true, true, "a[*1..2]", A);
+        Due.row(true, true, "a[*1..2]", A, A);
+        Due.row(false, false, "a[*1..2]", A, A, A);
+        Due.row(true, true, "{a[*]}[*2]");
+        Due.row(true, true, "a[->2]", 0, A, 0, A);
+        Due.row(false, false, "a[->2]", 0, A, 0, A, 0);
+        Due.row(false, true, "a[->2]", 0, A, 0);
+        Due.row(true, true, "a[=1]", 0, A, 0);
+        Due.row(false, false, "a[=1]", A, 0, A);
+        Due.row(true, true, "a[=0]");
+        Due.row(true, true, "a[=0]", 0, B);
+        Due.row(false, false, "a[=0]", 0, A);
+        Due.row(true, true, "a|b[*]", A, B, A);
+        Due.row(true, true, "a ; b || a && b", A, A | B);
+        Due.row(true, true, "a;b:a;b", A, A | B, B);
+        Due.row(false, true, "{a;b}&&{1[*2]}", A);
+        Due.row(true, true, "{a;b}&&{1[*2]}", A, B);
+        Due.row(true, true, "{a[*]}[+]");
+        Due.row(true, true, "{a;b}[*0..2]", A, B, A, B);
     }
 
     private static void wild() {
-        due(false, true, "0");
-        due(false, false, "0", A);
-        due(false, true, "a;0", A);
-        due(false, true, "a;!1;b", A);
-        due(false, true, "b & !b");
-        due(false, true, "1[=0] ; 0 ; a");
-        due(false, false, "a && {b;a}");
-        due(false, false, "a && {b;a}", A | B);
-        due(false, true, "a && {b;a} || b");
-        due(false, false, "a[*0] : b");
-        due(false, true, "0[->3]", A, B);
-        due(false, true, "1[->2]", 0);
+        Due.row(false, true, "0");
+        Due.row(false, false, "0", A);
+        Due.row(false, true, "a;0", A);
+        Due.row(false, true, "a;!1;b", A);
+        Due.row(false, true, "b & !b");
+        Due.row(false, true, "1[=0] ; 0 ; a");
+        Due.row(false, false, "a && {b;a}");
+        Due.row(false, false, "a && {b;a}", A | B);
+        Due.row(false, true, "a && {b;a} || b");
+        Due.row(false, false, "a[*0] : b");
+        Due.row(false, true, "0[->3]", A, B);
+        Due.row(false, true, "1[->2]", 0);
     }
 
     private static void firstOfSeveral() {

@@ -49,23 +49,18 @@ public final class TextTest {
     private static void end() {
         AssertionBench bench = new AssertionBench();
         Text.put(bench, "a|b#");
-        Check.fails("above", IllegalArgumentException.class, () -> ended(bench, 5));
-        Check.fails("below", IllegalArgumentException.class, () -> ended(bench, -1));
-        Check.fails("far below", IllegalArgumentException.class, () -> ended(bench, Integer.MIN_VALUE));
+        Check.refuses("above", IllegalArgumentException.class, () -> bench.end(5));
+        Check.refuses("below", IllegalArgumentException.class, () -> bench.end(-1));
+        Check.refuses("far below", IllegalArgumentException.class, () -> bench.end(Integer.MIN_VALUE));
         bench.end(4);
         Check.same("all four stay", 4, bench.put(0));
         bench.end(3);
         Check.same("the first three", 3, bench.put(0));
-        Check.fails("the fourth is gone", IllegalArgumentException.class, () -> ended(bench, 4));
+        Check.refuses("the fourth is gone", IllegalArgumentException.class, () -> bench.end(4));
         Check.same("they are a|b", -1, bench.read(0));
         Check.same("which fails of c", "1", Text.letters(bench, 4));
         bench.end(0);
-        Check.fails("an empty text has no first sign", IllegalArgumentException.class, () -> ended(bench, 1));
-    }
-
-    private static int ended(AssertionBench bench, int n) {
-        bench.end(n);
-        return n;
+        Check.refuses("an empty text has no first sign", IllegalArgumentException.class, () -> bench.end(1));
     }
 
     private static void read() {

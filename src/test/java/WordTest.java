@@ -16,11 +16,6 @@ public final class WordTest {
         Check.done("WordTest");
     }
 
-    private static void due(String answers, String property, int... word) {
-        AssertionBench bench = Text.bench(property);
-        Check.same(property, answers, Text.letters(bench, word));
-    }
-
     private static void letters() {
         AssertionBench bench = new AssertionBench();
         for (int wrong : new int[] {-1, 64, 1000, Integer.MIN_VALUE, Integer.MAX_VALUE}) {
@@ -43,91 +38,91 @@ public final class WordTest {
     }
 
     private static void conditions() {
-        due("0", "a", A);
-        due("1", "a", B);
-        due("01", "next a", B, B);
-        due("11", "0", A, A);
-        due("00", "1", 0, 0);
-        due("0", "a & b | c", C);
-        due("1", "a & b | c", A);
-        due("0", "a & !b | !c & 1", A | C);
-        due("1", "!f", 32);
-        due("0", "!f", 31);
-        due("1", "!1", 0);
+        Due.letters("0", "a", A);
+        Due.letters("1", "a", B);
+        Due.letters("01", "next a", B, B);
+        Due.letters("11", "0", A, A);
+        Due.letters("00", "1", 0, 0);
+        Due.letters("0", "a & b | c", C);
+        Due.letters("1", "a & b | c", A);
+        Due.letters("0", "a & !b | !c & 1", A | C);
+        Due.letters("1", "!f", 32);
+        Due.letters("0", "!f", 31);
+        Due.letters("1", "!1", 0);
     }
 
     private static void sequences() {
-        due("00", "{a;b}", A, B);
-        due("01", "{a;b}", A, A);
-        due("001", "{a;b;c}", A, B, B);
-        due("0000", "{a}", A, 0, 0, 0);
-        due("0000", "{a[*]}", 0, 0, 0, 0);
-        due("1", "{a[+]}", 0);
-        due("0000", "{a[->2]}", 0, 0, 0, 0);
-        due("01", "{a;0}", A, A);
-        due("00", "{a;0;a}|->b", A, A);
-        due("01", "{1:a:b ; c}", A | B, B);
-        due("1", "{a && {b;c}}", A | B);
-        due("1", "{a:b}", A);
-        due("0", "{a:b}", A | B);
-        due("011", "never {a;b}", A, B, 0);
-        due("0001", "never {a;b}", 0, 0, A, B);
-        due("0000", "never {1[*0]}", A, A, A, A);
-        due("0", "{1[*0]}", 0);
-        due("001", "{a[*2..3]}|=>b", A, A, A);
+        Due.letters("00", "{a;b}", A, B);
+        Due.letters("01", "{a;b}", A, A);
+        Due.letters("001", "{a;b;c}", A, B, B);
+        Due.letters("0000", "{a}", A, 0, 0, 0);
+        Due.letters("0000", "{a[*]}", 0, 0, 0, 0);
+        Due.letters("1", "{a[+]}", 0);
+        Due.letters("0000", "{a[->2]}", 0, 0, 0, 0);
+        Due.letters("01", "{a;0}", A, A);
+        Due.letters("00", "{a;0;a}|->b", A, A);
+        Due.letters("01", "{1:a:b ; c}", A | B, B);
+        Due.letters("1", "{a && {b;c}}", A | B);
+        Due.letters("1", "{a:b}", A);
+        Due.letters("0", "{a:b}", A | B);
+        Due.letters("011", "never {a;b}", A, B, 0);
+        Due.letters("0001", "never {a;b}", 0, 0, A, B);
+        Due.letters("0000", "never {1[*0]}", A, A, A, A);
+        Due.letters("0", "{1[*0]}", 0);
+        Due.letters("001", "{a[*2..3]}|=>b", A, A, A);
     }
 
     private static void implications() {
-        due("01", "{a;b}|->c", A, B);
-        due("00", "{a;b}|->c", A, B | C);
-        due("001", "{a;b}|=>c", A, B, B);
-        due("1", "{a[*]}|=>b", 0);
-        due("0", "{a[*]}|->b", 0);
-        due("01", "{a[*]}|=>b", A | B, A);
-        due("0", "a->b", 0);
-        due("1", "a->b", A);
-        due("01", "a->next b", A, A);
-        due("0001", "always a -> next[2] b", 0, A, 0, 0);
-        due("011", "{1;1}|->{a}", A, B, 0);
+        Due.letters("01", "{a;b}|->c", A, B);
+        Due.letters("00", "{a;b}|->c", A, B | C);
+        Due.letters("001", "{a;b}|=>c", A, B, B);
+        Due.letters("1", "{a[*]}|=>b", 0);
+        Due.letters("0", "{a[*]}|->b", 0);
+        Due.letters("01", "{a[*]}|=>b", A | B, A);
+        Due.letters("0", "a->b", 0);
+        Due.letters("1", "a->b", A);
+        Due.letters("01", "a->next b", A, A);
+        Due.letters("0001", "always a -> next[2] b", 0, A, 0, 0);
+        Due.letters("011", "{1;1}|->{a}", A, B, 0);
     }
 
     private static void times() {
-        due("0011", "always a", A, A, B, A);
-        due("001", "always {a;b}|=>c", A, B, A);
-        due("0001", "next[3] a", 0, 0, 0, 0);
-        due("1", "next[0] a", 0);
-        due("01", "next next[0] a", 0, 0);
-        due("0000000001", "next[9] a", 0, 0, 0, 0, 0, 0, 0, 0, 0, 0);
-        due("01", "always next a", A, 0);
+        Due.letters("0011", "always a", A, A, B, A);
+        Due.letters("001", "always {a;b}|=>c", A, B, A);
+        Due.letters("0001", "next[3] a", 0, 0, 0, 0);
+        Due.letters("1", "next[0] a", 0);
+        Due.letters("01", "next next[0] a", 0, 0);
+        Due.letters("0000000001", "next[9] a", 0, 0, 0, 0, 0, 0, 0, 0, 0, 0);
+        Due.letters("01", "always next a", A, 0);
     }
 
     private static void open() {
-        due("000", "(a until b)", A, B, 0);
-        due("01", "(a until b)", A, 0);
-        due("00", "(a until b)", B, 0);
-        due("000", "(a before b)", 0, A, B);
-        due("01", "(a before b)", 0, B);
-        due("1", "(a before b)", A | B);
-        due("01", "(a before b)", 0, A | B);
-        due("1", "(a and b)", A);
-        due("1", "(a and b)", B);
-        due("0", "(a and b)", A | B);
-        due("001", "({a;1} and {1;b;c})", A, B, B);
-        due("0001", "always ({a;b}|->c until b)", 0, A, A, B);
+        Due.letters("000", "(a until b)", A, B, 0);
+        Due.letters("01", "(a until b)", A, 0);
+        Due.letters("00", "(a until b)", B, 0);
+        Due.letters("000", "(a before b)", 0, A, B);
+        Due.letters("01", "(a before b)", 0, B);
+        Due.letters("1", "(a before b)", A | B);
+        Due.letters("01", "(a before b)", 0, A | B);
+        Due.letters("1", "(a and b)", A);
+        Due.letters("1", "(a and b)", B);
+        Due.letters("0", "(a and b)", A | B);
+        Due.letters("001", "({a;1} and {1;b;c})", A, B, B);
+        Due.letters("0001", "always ({a;b}|->c until b)", 0, A, A, B);
     }
 
     private static void longest() {
-        due("1", "1->".repeat(133) + "0", 0);
-        due("0", "1->".repeat(133) + "1", 0);
-        due("01", "{a}|->".repeat(65) + "next b", A, 0);
-        due("1", "{a}|->".repeat(66) + "{b}", A);
+        Due.letters("1", "1->".repeat(133) + "0", 0);
+        Due.letters("0", "1->".repeat(133) + "1", 0);
+        Due.letters("01", "{a}|->".repeat(65) + "next b", A, 0);
+        Due.letters("1", "{a}|->".repeat(66) + "{b}", A);
         int[] word = new int[24];
-        due("0".repeat(15) + "1".repeat(9), "next[9] next[6] a", word);
-        due("0".repeat(23) + "1", "next[9] next[9] next[5] a", word);
-        due("0".repeat(24), "next[9] next[9] next[6] a", word);
-        due("0".repeat(24), "next[9] ".repeat(40) + "a", word);
-        due("0".repeat(23) + "1", "always {!a[*8];!a[*8];!a[*7];a}", word);
-        due("0".repeat(24), "always {a[->9] ; b[->9]}", word);
+        Due.letters("0".repeat(15) + "1".repeat(9), "next[9] next[6] a", word);
+        Due.letters("0".repeat(23) + "1", "next[9] next[9] next[5] a", word);
+        Due.letters("0".repeat(24), "next[9] next[9] next[6] a", word);
+        Due.letters("0".repeat(24), "next[9] ".repeat(40) + "a", word);
+        Due.letters("0".repeat(23) + "1", "always {!a[*8];!a[*8];!a[*7];a}", word);
+        Due.letters("0".repeat(24), "always {a[->9] ; b[->9]}", word);
     }
 
     private static void firstFailing() {

@@ -1,7 +1,10 @@
 /** Counts what is not as it is due, and prints it. */
 final class Check {
+    private static final int MOST_PRINTED = 40;
+
     private static int wrong;
     private static int looked;
+    private static String about = "";
 
     private Check() {
     }
@@ -11,12 +14,26 @@ final class Check {
         Object answer();
     }
 
+    /** A call without an answer, of which only what it throws is looked at. */
+    interface Deed {
+        void done();
+    }
+
+    /** What the next looks are about is printed with those that go wrong. */
+    static void about(String what) {
+        about = what.isEmpty() ? "" : "(" + what + ") ";
+    }
+
+    static int looked() {
+        return looked;
+    }
+
     static void same(String what, Object due, Object answer) {
         looked++;
         if (!due.equals(answer)) {
             wrong++;
-            if (wrong <= 40) {
-                System.out.println(what + ": " + answer + ", due " + due);
+            if (wrong <= MOST_PRINTED) {
+                System.out.println(about + what + ": " + answer + ", due " + due);
             }
         }
     }
@@ -27,13 +44,23 @@ final class Check {
 
     /** That a call throws just this exception. */
     static void fails(String what, Class<? extends RuntimeException> due, Call call) {
-        String answer;
+        same(what, due.getSimpleName(), outcome(call));
+    }
+
+    static void refuses(String what, Class<? extends RuntimeException> due, Deed deed) {
+        fails(what, due, () -> {
+            deed.done();
+            return "nothing";
+        });
+    }
+
+    /** A call's answer, or the name of what it throws. */
+    static String outcome(Call call) {
         try {
-            answer = String.valueOf(call.answer());
+            return String.valueOf(call.answer());
         } catch (RuntimeException e) {
-            answer = e.getClass().getSimpleName();
+            return e.getClass().getSimpleName();
         }
-        same(what, due.getSimpleName(), answer);
     }
 
     /** Ends the test, with exit code 1 if something was wrong. */

@@ -1,4 +1,4 @@
-/** Puts texts into a bench, four signs at a time, and gets its design as numbers out of it. */
+/** Puts texts and words into a bench, and gets what it tells by many calls out of it as one text. */
 final class Text {
     private Text() {
     }
@@ -36,6 +36,14 @@ final class Text {
         return out.toString();
     }
 
+    static String flops(AssertionBench bench, int p) {
+        StringBuilder out = new StringBuilder();
+        for (int f = 0; f < bench.flops(p); f++) {
+            out.append(bench.flop(p, f) ? '1' : '0');
+        }
+        return out.toString();
+    }
+
     /** A bench with property 0 read, which must be without a fault. */
     static AssertionBench bench(String text) {
         return bench(text, "1");
@@ -48,6 +56,21 @@ final class Text {
         return bench;
     }
 
+    /** Letters by the signals that they have, a blank between two, and - for one that has none. */
+    static int[] word(String letters) {
+        if (letters.isEmpty()) {
+            return new int[0];
+        }
+        String[] told = letters.split(" ");
+        int[] word = new int[told.length];
+        for (int k = 0; k < told.length; k++) {
+            for (char signal : told[k].toCharArray()) {
+                word[k] |= signal == '-' ? 0 : 1 << signal - 'a';
+            }
+        }
+        return word;
+    }
+
     /** What each letter answers, one behind the other. */
     static String letters(AssertionBench bench, int... letters) {
         StringBuilder out = new StringBuilder();
@@ -55,5 +78,9 @@ final class Text {
             out.append(bench.letter(v));
         }
         return out.toString();
+    }
+
+    static String letters(AssertionBench bench, String word) {
+        return letters(bench, word(word));
     }
 }
