@@ -378,6 +378,28 @@ final class CallEdges {
             Check.fails("no witness", STATE, () -> bench.witness(0));
             Check.same("it is property " + p, p == 0 ? 3 : 2, bench.letter(1));
         }
+        nothingIsLeft();
+    }
+
+    /** Of texts that were read before, with faults or without, nothing is left in one that is read now. */
+    private static void nothingIsLeft() {
+        String[] texts = {"{a[*]}|->{b[*];c}", "{{a;b}[*3]&&c[*]}", "{b}", "{f;!b;c}", "next {{a:b[+]}[*]}", "{c[->3]}", "{d[=2];a}",
+            "{a[*0]}", "{a||b||c}", "never {b;b}", "{1[*6]}|=>a", "{a&&b&&c}", "(a until b)", "{e}", "{{a;b;c;d;e}[*8]}", "{!a}"};
+        String[] faults = {"((((", "{{{{a;b", "{{{{a[*9]}[*9]}[*9]}", "(a and {b", "{a[*9]||{b;c}#", "", "(((a and b)", "{a}|->("};
+        int[] word = Text.word("a b ab - abc c bc f e d");
+        AssertionBench bench = new AssertionBench();
+        for (int n = 0; n < 4 * texts.length; n++) {
+            String text = texts[n * 5 % texts.length];
+            Check.holds("a fault", Text.read(bench, n % 2, faults[n % faults.length]) >= 0);
+            Check.same(text, -1, Text.read(bench, n % 2, text));
+            AssertionBench fresh = new AssertionBench();
+            Text.read(fresh, 0, text);
+            for (int v : word) {
+                int fails = bench.letter(v) >> n % 2 & 1;
+                Check.same(text + " fails", fresh.letter(v), fails);
+                Check.same(text, State.property(fresh, 0), State.property(bench, n % 2));
+            }
+        }
     }
 
     private static void readFault() {

@@ -54,15 +54,28 @@ final class ClassCallEdges {
         classes(3, "a");
         classes(4, "a;b");
         classes(8, "a;b;c;d;e;f");
-        // As many as six states can have, but for two, and the one of no letters: each is a set of them.
-        AssertionBench bench = Text.bench("{a||b||c||d||e||f}");
-        Check.same("one of six at once", 3, bench.classes(0));
-        Check.holds("many", Text.bench("{{a[*];b[*];c[*];d[*];e[*];f[*]}}").classes(0) >= 6);
+        mostClasses();
         // Of the property that was read last.
+        AssertionBench bench = Text.bench("{a}");
         Text.read(bench, 0, "{a;b}");
         Check.same("read again", 4, bench.classes(0));
         Text.read(bench, 0, "{a");
         Check.same("a fault leaves it", 4, bench.classes(0));
+    }
+
+    /** As many as there can be: what no letters tell, and whichever of six have come every time. */
+    private static void mostClasses() {
+        AssertionBench bench = Text.bench("{a[+]||b[+]||c[+]||d[+]||e[+]||f[+]}", "{a[*]||b[*]||c[*]||d[*]||e[*]||f[*]}");
+        Check.same("each set of signals, and none yet", 65, bench.classes(0));
+        Check.same("none yet is like all of them", 64, bench.classes(1));
+        for (int v = 0; v < 64; v++) {
+            Check.same("letter " + v, v + 1, bench.classBehind(0, 0, v));
+            Check.same("letter " + v, v == 63 ? 0 : v + 1, bench.classBehind(1, 0, v));
+            Check.same("kind of " + v, v == 0 ? 0 : 3, bench.kind(0, v + 1));
+            for (int w = 0; w < 64; w++) {
+                Check.same(v + " and " + w, (v & w) + 1, bench.classBehind(0, v + 1, w));
+            }
+        }
     }
 
     private static void classesOfNoProperty() {
@@ -139,6 +152,17 @@ final class ClassCallEdges {
             Check.same("dead and " + v, 1, bench.classBehind(0, 1, v));
             Check.same("a and " + v, f ? 3 : 1, bench.classBehind(0, 2, v));
             Check.same("a f and " + v, 1, bench.classBehind(0, 3, v));
+        }
+        // Classes that are numbered by how often a signal has come, or has not.
+        for (int k = 0; k < 6; k++) {
+            char signal = (char) ('a' + k);
+            AssertionBench counts = Text.bench("{" + signal + "[=2]}", "{!" + signal + "[=2]}");
+            for (int c = 0; c <= 3; c++) {
+                Check.same(signal + " once more", Math.min(c + 1, 3), counts.classBehind(0, c, 1 << k));
+                Check.same(signal + " not", c, counts.classBehind(0, c, 63 - (1 << k)));
+                Check.same(signal + " once more without", Math.min(c + 1, 3), counts.classBehind(1, c, 0));
+                Check.same(signal + " with", c, counts.classBehind(1, c, 63));
+            }
         }
     }
 

@@ -189,8 +189,8 @@ final class DesignCallEdges {
 
     private static void design() {
         AssertionBench bench = found();
-        Text.readDesign(bench, "input x;latch p 1;latch q 1;next p=!q;next q=x;signal a=p&q;signal f=!x;");
-        bench.search(0, 1);
+        Text.readDesign(bench, "input x;latch p 1;latch q 1;next p=!q;next q=x;signal a=!p&q;signal f=!x;");
+        Check.same("a run", 1, bench.search(0, 1));
         bench.design(1, 2);
         Check.same("anew", "aag 3 1 2 6 0 2 4 4 0 6 6 0 2 2 2 2 2 2", Text.numbers(bench));
         noRun(bench);

@@ -68,6 +68,30 @@ final class DesignEdges {
         }
         Check.same("sixty gates", 60, bench.has(2));
         Check.fails("a 61st", UnsupportedOperationException.class, () -> bench.gate(0, 0));
+        greatest();
+    }
+
+    /** All inputs, latches and gates that there may be, each gate one of the one ahead, and all are tried. */
+    private static void greatest() {
+        AssertionBench bench = Text.bench("always !f", "next[3] f");
+        bench.design(3, 5);
+        for (int k = 0; k < 5; k++) {
+            bench.latch(k, 8 + 2 * k, true);
+        }
+        int value = bench.gate(6, 4);
+        for (int k = 1; k < 60; k++) {
+            value = bench.gate(2 * value, k % 2 == 0 ? 2 : 8 + 2 * (k % 5));
+        }
+        Check.same("the last value", 68, value);
+        bench.signal(5, 2 * value);
+        Check.same("only with all three inputs", 1, bench.search(0, 4));
+        Check.same("these", 7, bench.run(0, 0));
+        Check.same("and all latches", 31, bench.run(0, 2));
+        bench.signal(5, 2 * value + 1);
+        Check.same("nor is there one that fails", 4, bench.search(1, 4));
+        Check.same("with the fourth cycle", "0007", "" + bench.run(0, 0) + bench.run(1, 0) + bench.run(2, 0) + bench.run(3, 0));
+        bench.signal(5, 0);
+        Check.same("none at all", 0, bench.search(0, 4));
     }
 
     /** A bench whose property 0 fails just with some inputs, and those are found with the first cycle. */
@@ -310,6 +334,28 @@ final class DesignEdges {
         Due.numbers("aag 3 2 1 6 0 2 4 6 4 1 2 4 6 3 2 2",
                 "input a;input b;latch c 1;wire d=!a;next c=b;signal a=a;signal b=b;signal c=c;signal d=d;");
         Due.numbers("aag 1 1 0 6 0 2 2 2 2 2 2 2", "input f;signal f=f;signal f=f;");
+        // Names that are alike but for a letter, or for how many there are.
+        Due.numbers("aag 3 3 0 6 0 2 4 6 2 4 6 2 2 2", "input ab;input r;input ba;signal a=ab;signal b=r;signal c=ba;");
+        Due.numbers("aag 3 3 0 6 0 2 4 6 2 4 6 2 2 2", "input a;input aa;input aaa;signal a=a;signal b=aa;signal c=aaa;");
+        Due.numbers("aag 3 3 0 6 0 2 4 6 2 4 6 2 2 2",
+                "input aaaaaaaa;input baaaaaaa;input aaaaaaab;signal a=aaaaaaaa;signal b=baaaaaaa;signal c=aaaaaaab;");
+        Due.numbers("aag 3 3 0 6 0 2 4 6 2 4 6 2 2 2", "input zz;input z;input zzzzzzzz;signal a=zz;signal b=z;signal c=zzzzzzzz;");
+        mostNames();
+    }
+
+    /** As many names as four hundred signs can have. */
+    private static void mostNames() {
+        StringBuilder text = new StringBuilder("input a;input b;input c;");
+        for (int k = 3; k < 26; k++) {
+            text.append("wire ").append((char) ('a' + k)).append("=0;");
+        }
+        for (int k = 0; k < 14; k++) {
+            text.append("wire ").append((char) ('a' + k)).append("a=1;");
+        }
+        String last = text + "signal f=ma&na;";
+        Check.holds("it fits", last.length() <= 400);
+        Due.numbers("aag 4 3 0 6 1 2 4 6 2 2 2 2 2 8 8 1 1", last);
+        Due.designFault(text.length() + 5, text + "wire na=0;");
     }
 
     private static void order() {

@@ -76,6 +76,9 @@ final class FailEdges {
         Due.letters("0000", "{a||{a;b;c}}", "a - - -");
         Due.letters("0".repeat(24), "{a[->1]}", new int[24]);
         Due.letters("0".repeat(23) + "1", "{!a[*8];!a[*8];!a[*7];a}", new int[24]);
+        // Two of a great weight, one behind the other.
+        Due.letters("000", "{{a[*6]}[*6]||a;b}|->{{b[*6]}[*6]||b;c}", "a b c");
+        Due.letters("001", "{{a[*6]}[*6]||a;b}|->{{b[*6]}[*6]||b;c}", "a b -");
     }
 
     private static void overlaps() {
@@ -123,6 +126,11 @@ final class FailEdges {
         Due.letters("0000", "next always a", "- a a a");
         Due.letters("001", "always {a;b}", "a ab -");
         Due.letters("01", "always next a", "- -");
+        // From several places at once.
+        Due.letters("00001", "always {1;1;a}", "- - a a -");
+        Due.letters("000001", "always {1;1;1;a}", "- - - a a -");
+        Due.letters("00000", "always {1;1;a}", "- - a a a");
+        Due.letters("000000", "always {b;1;1;a}", "b b b ab ab ab");
     }
 
     private static void never() {
@@ -190,6 +198,11 @@ final class FailEdges {
         Due.letters("01", "(a and next b)", "a -");
         Due.letters("01", "(next b and a)", "a -");
         Due.letters("11", "(next b and a)", "- b");
+        // Each for itself, however many there are.
+        Due.letters("0000", "({a;a;a} and (1 until b))", "a a a -");
+        Due.letters("001", "({a;a;a} and (1 until b))", "a a -");
+        Due.letters("0000", "((1 until b) and ({a;a;a} and (c before d)))", "a a a -");
+        Due.letters("0001", "((1 until b) and ({a;a;a} and (c before d)))", "a a a d");
     }
 
     private static void staysSo() {
@@ -234,6 +247,10 @@ final class FailEdges {
         Check.same("c with two", 0, differ("!c", "1", 2, 4));
         Check.same("c with three", 1, differ("!c", "1", 3, 1));
         Check.same("d with three", 0, differ("!d", "1", 3, 3));
+        AssertionBench bench = Text.bench("!c", "1");
+        Check.same("with three first", 1, bench.differ(3, 2));
+        Check.same("then with two", 0, bench.differ(2, 4));
+        Check.same("and with one", 0, bench.differ(1, 9));
         // Up to k letters.
         for (int k = 1; k <= 12; k++) {
             Check.same("with the sixth, of " + k, k < 6 ? 0 : 6, differ("next[5] a", "1", 1, k));

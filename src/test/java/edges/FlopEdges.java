@@ -113,6 +113,25 @@ final class FlopEdges {
         Due.kinds("20", "0;0");
         Due.kinds("202", "a;0");
         Due.kinds("30", "a[*0]");
+        // Whichever signals it has.
+        for (String signal : new String[] {"a", "b", "c", "d", "e", "f"}) {
+            Due.kinds("203", signal);
+            Due.kinds("230", "!" + signal);
+            String turns = "{!x;x}||{x;!x;x}".replace("x", signal);
+            Due.kinds("22203", turns);
+            alike(true, turns, "-", signal + " -");
+            alike(false, turns, "-", signal);
+            alike(true, turns, "- -", signal + " " + signal);
+            alike(false, "{!x;!x}||{x;0}".replace("x", signal), "-", signal);
+            alike(false, "{!x;x}||{x;0}".replace("x", signal), "-", signal);
+        }
+        Due.kinds("2023", "a&!c;c");
+        Due.kinds("202223", "{f;b}||{b;d}");
+        alike(false, "{a;c}||{c;a}", "a", "c");
+        alike(false, "{a;c}||{c;a}", "a", "ac");
+        alike(true, "{a;c}||{c;a}", "a c", "c a");
+        alike(true, "{b&d;f}", "bd", "abcde");
+        alike(false, "{b&d;f}", "bd", "b");
     }
 
     private static void numbered() {
@@ -169,6 +188,7 @@ final class FlopEdges {
         Due.flops("{a}|=>always 1", "a -", "10000", "00100", "00010");
         Due.flops("{a}|=>always 1", "- a", "10000", "00000", "00000");
         Due.flops("{a;b}|=>next 1", "a b - -", "100000", "001000", "000100", "000010", "000000");
+        Due.flops("always {a[*0]}|=>next[2] 1", "a a a", "100000", "010100", "010110", "010110");
     }
 
     private static void beginsIf() {
@@ -252,6 +272,18 @@ final class FlopEdges {
         Due.flops("always {a;b}", "b a b", "10000", "01001", "01011", "01001");
         // One that can never be good goes on as well.
         Due.flops("{a;0}", "a a", "1000", "0010", "0001");
+        // Letters of a word that was cleared are none of this one; and all 24 are.
+        AssertionBench bench = Text.bench("{a;b}");
+        Text.letters(bench, "a b");
+        bench.clear();
+        bench.letter(1);
+        Check.same("b has not come again", "0010", Text.flops(bench, 0));
+        AssertionBench most = Text.bench("{a[->2]}");
+        for (int n = 0; n < 23; n++) {
+            most.letter(2);
+        }
+        most.letter(1);
+        Check.same("behind 24 letters", "0010", Text.flops(most, 0));
     }
 
     private static void rows() {

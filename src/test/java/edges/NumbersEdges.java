@@ -47,6 +47,9 @@ final class NumbersEdges {
         Due.numbersFault(0, "AAG 1 1 0 6 0 2 2 2 2 2 2 2");
         Due.numbersFault(0, "gaa 1 1 0 6 0 2 2 2 2 2 2 2");
         Due.numbersFault(0, "x" + LEAST);
+        Due.numbersFault(0, "bag 1 1 0 6 0 2 2 2 2 2 2 2");
+        Due.numbersFault(0, "abg 1 1 0 6 0 2 2 2 2 2 2 2");
+        Due.numbersFault(0, "aaf 1 1 0 6 0 2 2 2 2 2 2 2");
         Due.numbersFault(3, "aag");
         Due.numbersFault(3, "aagg 1 1 0 6 0 2 2 2 2 2 2 2");
         Due.numbersFault(3, "aagx");
@@ -77,6 +80,12 @@ final class NumbersEdges {
         Due.numbersFault(26, "aag 1 1 0 6 0 2 2 2 2 2 2 4294967298");
         Due.numbersFault(4, "aag -1 1 0 6 0 2 2 2 2 2 2 2");
         Due.numbersFault(4, "aag 9999");
+        // The signs next to the digits are none.
+        Due.numbersFault(4, "aag / 1 0 6 0 2 2 2 2 2 2 2");
+        Due.numbersFault(4, "aag : 1 0 6 0 2 2 2 2 2 2 2");
+        Due.numbersFault(5, "aag 1/ 1 0 6 0 2 2 2 2 2 2 2");
+        Due.numbersFault(8, "aag 1 1 / 6 0 2 2 2 2 2 2 2");
+        Due.numbersFault(28, "aag 11 1 0 6 10 2 2 2 2 2 2 : 4 0 0");
     }
 
     private static void asWritten() {

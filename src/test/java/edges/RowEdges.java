@@ -72,7 +72,7 @@ final class RowEdges {
         Due.rows("a:b", "ab");
         Due.dead("a:b", "a", "b", "ab ab", "a b");
         Due.rows("{a;b}:{c;d}", "a bc d");
-        Due.dead("{a;b}:{c;d}", "a b c", "a c");
+        Due.dead("{a;b}:{c;d}", "a b c", "a c", "a bd", "a ab");
         Due.rows("a:b:c", "abc");
         // Neither row may be of none, as there is no letter that both have then.
         Due.beginnings("a[*]:b[*]", "");
@@ -85,6 +85,18 @@ final class RowEdges {
         Due.rows("a[*0..1]:b[*0..1]", "ab");
         Due.beginnings("a[*0..1]:b[*0..1]", "");
         Due.rows("{a:b}[*]", "", "ab", "ab ab");
+        // The letter must be the last of one and the first of the other, and not anyone of them.
+        Due.rows("{a;b}:c", "a bc");
+        Due.beginnings("{a;b}:c", "ac");
+        Due.dead("{a;b}:c", "bc", "c");
+        Due.rows("a:!b", "a");
+        Due.dead("a:!b", "-", "ab");
+        Due.rows("{a;b}:!c", "a b");
+        Due.dead("{a;b}:!c", "a -", "a bc");
+        Due.rows("{a:b[+]}[*]", "", "ab b", "ab b ab b");
+        Due.dead("{a:b[+]}[*]", "b", "ab a");
+        Due.rows("c:a[=0]", "c", "c b");
+        Due.dead("c:a[=0]", "ac", "b");
     }
 
     private static void either() {
@@ -104,6 +116,12 @@ final class RowEdges {
         Due.dead("a&&b", "a", "b", "ab ab");
         Due.beginnings("a&&b", "");
         Due.rows("a[*]&&b[*]", "", "ab", "ab ab");
+        Due.dead("a[*]&&b[*]", "a", "b", "ab a", "ab b", "ab ab a");
+        Due.dead("a[*2]&&b[*2]", "ab a", "ab b");
+        // As great as may be: five times eight.
+        Due.rows("a[*4]&&b[*0..7]", "ab ab ab ab");
+        Due.beginnings("a[*4]&&b[*0..7]", "", "ab ab ab");
+        Due.dead("a[*4]&&b[*0..7]", "ab ab ab ab ab", "ab ab ab a");
         Due.rows("a[*0]&&b[*]", "");
         Due.dead("a[*0]&&b[*]", "ab");
         // Of different lengths there is none that is of both.
@@ -152,6 +170,9 @@ final class RowEdges {
         Due.dead("{a;b}[*2]", "a b a b a");
         Due.rows("{a;b}[*0]", "");
         Due.dead("{a;b}[*0]", "a", "a b");
+        Due.beginnings("{{a[*8]}[*5]}[*1]", as(24));
+        Due.beginnings("{{a[*8]}[*5]}[*0..1]", as(24));
+        Due.dead("{{a[*8]}[*5]}[*0]", "a");
         // Rows of none are rows.
         Due.rows("{a[*]}[*3]", "", "a", "a a a a");
         Due.rows("{a[*0..1]}[*2]", "", "a", "a a");

@@ -94,6 +94,15 @@ final class TextEdges {
         Check.same("one of 400 signs that is none", -1, Text.read(bench, 0, "0|".repeat(199) + " b"));
         Check.same("it is read to its last sign", 0, bench.letter(2));
         Check.same("and has none but b", 1, Text.bench("0|".repeat(199) + " b").letter(61));
+        // As many tokens, parts and sequences as there can be.
+        Due.letters("1", "!a" + "|0".repeat(199), "a");
+        Due.letters("1", "1->".repeat(133) + "0", "-");
+        Due.letters("0", "1->".repeat(132) + "a->0", "-");
+        Due.letters("1", "1->".repeat(132) + "a->0", "a");
+        Due.letters("1", "{a}|->".repeat(66) + "{b}", "a");
+        Due.letters("00", "{a}|->".repeat(66) + "{b}", "ab -");
+        Due.letters("01", "({a;b}and".repeat(19) + "{a;c}" + ")".repeat(19), "a b");
+        Due.letters("000", "({a;b}and".repeat(19) + "{a;c}" + ")".repeat(19), "a bc -");
     }
 
     private static void twoProperties() {
@@ -136,12 +145,14 @@ final class TextEdges {
             Due.fault(n == 0 ? 2 : -1, "{a[->" + n + "]}");
         }
         for (String none : new String[] {"[*10]", "[*00]", "[*1..10]", "[*10..9]", "[*..1]", "[*1..]", "[*1.2]",
-            "[*1...2]", "[->10]", "[->]", "[=10]", "[=]", "[*a]", "[->a]", "[=a]", "[*-1]", "[+1]", "[]"}) {
+            "[*1...2]", "[*a..2]", "[*1..a]", "[->10]", "[->]", "[=10]", "[=]", "[*a]", "[->a]", "[=a]", "[*/]", "[*:]", "[->/]", "[->:]", "[=/]", "[=:]", "[*-1]", "[+1]", "[]"}) {
             Due.fault(2, "{a" + none + "}");
         }
         Due.fault(4, "next[10]a");
         Due.fault(4, "next[]a");
         Due.fault(4, "next[a]a");
+        Due.fault(4, "next[/]a");
+        Due.fault(4, "next[:]a");
         Due.fault(4, "next[1..2]a");
     }
 
@@ -196,7 +207,7 @@ final class TextEdges {
     }
 
     private static void terms() {
-        Due.reads("a", "a|b", "a|b|c|d|e|f|0|1", "a" + "|a".repeat(199));
+        Due.reads("a", "a|b", "a|b|c|d|e|f|0|1", "a" + "|a".repeat(199), "!a" + "|a".repeat(199));
         Due.fault(0, "");
         Due.fault(0, "|a");
         Due.fault(2, "a|");

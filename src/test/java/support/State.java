@@ -40,7 +40,7 @@ final class State {
     }
 
     /** The rows, classes and flip-flops of a property behind the word so far. */
-    private static String property(AssertionBench bench, int p) {
+    static String property(AssertionBench bench, int p) {
         StringBuilder out = new StringBuilder();
         int length = bench.word(0);
         for (int i = 0; i <= length; i++) {
