@@ -25,12 +25,17 @@ public final class RoomTest {
     }
 
     private static long bytesOf(Runnable run) {
-        com.sun.management.ThreadMXBean threads = (com.sun.management.ThreadMXBean) ManagementFactory.getThreadMXBean();
-        long before = threads.getCurrentThreadAllocatedBytes();
+        long before = bytesSoFar();
         bench = new AssertionBench();
         calls = 0;
         run.run();
-        return threads.getCurrentThreadAllocatedBytes() - before;
+        return bytesSoFar() - before;
+    }
+
+    /** A Java that can't tell it leaves the runs themselves to be looked at. */
+    private static long bytesSoFar() {
+        return ManagementFactory.getThreadMXBean() instanceof com.sun.management.ThreadMXBean threads
+                && threads.isThreadAllocatedMemorySupported() ? threads.getCurrentThreadAllocatedBytes() : 0;
     }
 
     /** Puts a text and reads it, if there are calls left for that; 2 is for designs, 3 for numbers. */
