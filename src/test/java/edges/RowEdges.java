@@ -97,6 +97,8 @@ final class RowEdges {
         Due.dead("{a:b[+]}[*]", "b", "ab a");
         Due.rows("c:a[=0]", "c", "c b");
         Due.dead("c:a[=0]", "ac", "b");
+        Due.rows("c:a[=0];b", "c b", "c - b");
+        Due.dead("c:a[=0];b", "b", "ac b");
     }
 
     private static void either() {
@@ -126,7 +128,10 @@ final class RowEdges {
         Due.dead("a[*0]&&b[*]", "ab");
         // Of different lengths there is none that is of both.
         Due.dead("a&&{b;c}", "", "ab", "ab c");
-        Due.dead("a[*0]&&b", "", "b", "ab");
+        Due.dead("a[*0]&&b", "", "a", "b", "ab");
+        Due.dead("a&&b[*0]", "", "a", "b", "ab");
+        Due.dead("a&&a[*0]", "", "a", "a a");
+        Due.rows("a[*]&&b[*0];c", "c");
         Due.rows("a[*2]&&b[*0..2]", "ab ab");
         Due.beginnings("a[*2]&&b[*0..2]", "", "ab");
         Due.rows("a[*1..2]&&b[*2..3]", "ab ab");
@@ -167,7 +172,9 @@ final class RowEdges {
         }
         Due.rows("{a;b}[*2]", "a b a b");
         Due.beginnings("{a;b}[*2]", "", "a b", "a b a");
-        Due.dead("{a;b}[*2]", "a b a b a");
+        Due.dead("{a;b}[*2]", "a b a b a", "a b b", "a b b a b", "b a b");
+        Due.rows("c;{a;b}[*3];c", "c a b a b a b c");
+        Due.dead("c;{a;b}[*3];c", "c a b b", "c a b a b b", "c b", "c a b a b c");
         Due.rows("{a;b}[*0]", "");
         Due.dead("{a;b}[*0]", "a", "a b");
         Due.beginnings("{{a[*8]}[*5]}[*1]", as(24));
