@@ -55,7 +55,7 @@ public final class AnyCallTest {
             String name = CALLS[random.nextInt(CALLS.length)];
             int[] n = {pick(random), pick(random), pick(random)};
             String before = looks && calls % 16 == 0 ? State.of(bench) : "";
-            String answer = Check.outcome(() -> call(bench, name, n));
+            String answer = Calls.outcome(bench, name, n);
             out.append(answer).append(' ');
             if (looks && answer.endsWith("Exception")) {
                 Check.holds(name + " throws " + answer, MAY_THROW.getOrDefault(name, List.of()).contains(answer));
@@ -76,43 +76,5 @@ public final class AnyCallTest {
         bench.end(0);
         Text.put(bench, text);
         return 1 + (text.length() + 3) / 4;
-    }
-
-    private static Object call(AssertionBench bench, String name, int[] n) {
-        return switch (name) {
-            case "put" -> bench.put(n[0]);
-            case "read" -> bench.read(n[0]);
-            case "letter" -> bench.letter(n[0]);
-            case "word" -> bench.word(n[0]);
-            case "row" -> bench.row(n[0], n[1], n[2]);
-            case "goesOn" -> bench.goesOn(n[0], n[1], n[2]);
-            case "classes" -> bench.classes(n[0]);
-            case "classOf" -> bench.classOf(n[0], n[1], n[2]);
-            case "classBehind" -> bench.classBehind(n[0], n[1], n[2]);
-            case "kind" -> bench.kind(n[0], n[1]);
-            case "flops" -> bench.flops(n[0]);
-            case "flop" -> bench.flop(n[0], n[1]);
-            case "readDesign" -> bench.readDesign();
-            case "readNumbers" -> bench.readNumbers();
-            case "number" -> bench.number(n[0]);
-            case "has" -> bench.has(n[0]);
-            case "gate" -> bench.gate(n[0], n[1]);
-            case "search" -> bench.search(n[0], n[1]);
-            case "run" -> bench.run(n[0], n[1]);
-            case "differ" -> bench.differ(n[0], n[1]);
-            case "witness" -> bench.witness(n[0]);
-            default -> deed(bench, name, n);
-        };
-    }
-
-    private static String deed(AssertionBench bench, String name, int[] n) {
-        switch (name) {
-            case "end" -> bench.end(n[0]);
-            case "clear" -> bench.clear();
-            case "design" -> bench.design(n[0], n[1]);
-            case "latch" -> bench.latch(n[0], n[1], n[2] % 2 == 0);
-            default -> bench.signal(n[0], n[1]);
-        }
-        return "done";
     }
 }

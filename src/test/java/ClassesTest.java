@@ -9,6 +9,9 @@ public final class ClassesTest {
         for (int seed = 0; seed < 1500; seed++) {
             alike(new Maker(seed, 1 + seed % 3));
         }
+        for (int seed = 0; seed < 600; seed++) {
+            againstModel(new Maker(50000 + seed, 1 + seed % 6).sequenceUpTo(6));
+        }
         Check.done("ClassesTest");
     }
 
@@ -75,6 +78,19 @@ public final class ClassesTest {
         Check.same("only the first one's weight counts", 3, bench.classes(1));
         Text.read(bench, 1, "{b;a}|->{b}");
         Check.same("classes of the property that was read last", 4, bench.classes(1));
+    }
+
+    /** Each class, its kind and what each letter leads to. */
+    private static void againstModel(Model.Seq s) {
+        AssertionBench bench = Text.bench("{" + s.text() + "}");
+        ClassModel due = new ClassModel(s);
+        Check.same(s.text() + " classes", due.count(), bench.classes(0));
+        for (int c = 0; c < Math.min(due.count(), bench.classes(0)); c++) {
+            Check.same(s.text() + " kind of " + c, due.kind(c), bench.kind(0, c));
+            for (int v = 0; v < 64; v++) {
+                Check.same(s.text() + " behind " + c + " with " + v, due.behind(c, v), bench.classBehind(0, c, v));
+            }
+        }
     }
 
     /**

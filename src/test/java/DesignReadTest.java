@@ -16,14 +16,14 @@ public final class DesignReadTest {
             Random random = new Random(seed);
             String text = designText(random);
             lookDesign(bench, text);
-            lookDesign(bench, changed(random, text, PIECES));
-            lookDesign(bench, changed(random, changed(random, text, PIECES), PIECES));
+            lookDesign(bench, changed(random, text, false));
+            lookDesign(bench, changed(random, changed(random, text, false), false));
             lookDesign(bench, text.substring(0, random.nextInt(text.length())));
             String numbers = DesignModel.ofText(text).numbers();
             if (numbers.length() <= 390) {
                 lookNumbers(bench, numbers);
-                lookNumbers(bench, changed(random, numbers, NUMBER_PIECES));
-                lookNumbers(bench, changed(random, changed(random, numbers, NUMBER_PIECES), NUMBER_PIECES));
+                lookNumbers(bench, changed(random, numbers, true));
+                lookNumbers(bench, changed(random, changed(random, numbers, true), true));
                 lookNumbers(bench, numbers.substring(0, random.nextInt(numbers.length())));
             }
         }
@@ -57,7 +57,9 @@ public final class DesignReadTest {
         }
     }
 
-    private static String changed(Random random, String text, String[] pieces) {
+    /** A text changed at one place, by what may stand in texts of its kind. */
+    static String changed(Random random, String text, boolean asNumbers) {
+        String[] pieces = asNumbers ? NUMBER_PIECES : PIECES;
         int at = random.nextInt(text.length() + 1);
         int out = Math.min(text.length(), at + random.nextInt(3));
         String in = random.nextInt(4) == 0 ? "" : pieces[random.nextInt(pieces.length)];

@@ -83,7 +83,8 @@ public final class DifferTest {
         }
     }
 
-    private static int[] first(Model.Prop zero, Model.Prop one, int n, int k) {
+    /** The witness; none if there is none. */
+    static int[] first(Model.Prop zero, Model.Prop one, int n, int k) {
         for (int length = 1; length <= k; length++) {
             for (int w = 0; w < 1 << n * length; w++) {
                 int[] word = new int[length];

@@ -1,4 +1,4 @@
-/** Promise 4: the faults of texts, against an Earley recogniser, and one by one. */
+/** Promise 4: the faults of texts, against an Earley recogniser and a plain reader, and one by one. */
 public final class FaultTest {
     private static final String[] PIECES = {
         "a", "b", "f", "g", "0", "1", "2", "!", "&", "|", ";", ":", "||", "&&", "{", "}", "(", ")", "->", "|->",
@@ -26,10 +26,21 @@ public final class FaultTest {
     }
 
     private static void look(AssertionBench bench, String text) {
-        Check.same("[" + text + "]", FaultModel.fault(text), Text.read(bench, 0, text));
+        int due = FaultModel.fault(text);
+        Check.same("[" + text + "]", due, Text.read(bench, 0, text));
+        Check.same("the other model's fault of [" + text + "]", due, readFault(text));
     }
 
-    private static String changed(Maker maker, String text) {
+    private static int readFault(String text) {
+        try {
+            TextModel.read(text);
+            return AssertionBench.NONE;
+        } catch (DesignModel.Fault fault) {
+            return fault.place;
+        }
+    }
+
+    static String changed(Maker maker, String text) {
         int at = maker.below(text.length() + 1);
         int out = Math.min(text.length(), at + maker.below(3));
         String in = maker.below(4) == 0 ? "" : PIECES[maker.below(PIECES.length)];

@@ -124,7 +124,8 @@ public final class SearchTest {
         }
     }
 
-    private static int[] first(Model.Prop p, DesignModel design, int k) {
+    /** The first row of inputs in the order of the document that makes it fail; none if there is none. */
+    static int[] first(Model.Prop p, DesignModel design, int k) {
         for (int length = 1; length <= k; length++) {
             for (int n = 0; n < 1 << design.inputs * length; n++) {
                 int[] row = new int[length];

@@ -1,5 +1,5 @@
 import java.util.ArrayList;
-import java.util.HashMap;
+import java.util.IdentityHashMap;
 import java.util.List;
 import java.util.Map;
 import java.util.TreeSet;
@@ -73,20 +73,18 @@ final class Model {
     /** Rows of one word; answers are kept, as the definitions ask the same again and again. */
     static final class Rows {
         private final int[] word;
-        private final Map<String, Boolean> kept = new HashMap<>();
+        private final Map<Seq, Boolean[][]> kept = new IdentityHashMap<>();
 
         Rows(int... word) {
             this.word = word;
         }
 
         boolean of(Seq s, int i, int j) {
-            String key = System.identityHashCode(s) + " " + s.text() + " " + i + " " + j;
-            Boolean known = kept.get(key);
-            if (known == null) {
-                known = reckon(s, i, j);
-                kept.put(key, known);
+            Boolean[][] known = kept.computeIfAbsent(s, key -> new Boolean[word.length + 1][word.length + 1]);
+            if (known[i][j] == null) {
+                known[i][j] = reckon(s, i, j);
             }
-            return known;
+            return known[i][j];
         }
 
         private boolean reckon(Seq s, int i, int j) {
@@ -215,7 +213,7 @@ final class Model {
     static final class Word {
         final int[] word;
         private final Rows rows;
-        private final Map<String, Boolean> going = new HashMap<>();
+        private final Map<Seq, Boolean[]> going = new IdentityHashMap<>();
 
         Word(int[] word) {
             this.word = word;
@@ -223,8 +221,11 @@ final class Model {
         }
 
         private boolean goes(Seq s, int i) {
-            return going.computeIfAbsent(System.identityHashCode(s) + " " + s.text() + " " + i,
-                    key -> goesOn(s, word, i, word.length));
+            Boolean[] known = going.computeIfAbsent(s, key -> new Boolean[word.length + 1]);
+            if (known[i] == null) {
+                known[i] = goesOn(s, word, i, word.length);
+            }
+            return known[i];
         }
 
         boolean fails(Prop p, int i) {
@@ -357,7 +358,7 @@ final class Model {
             return true;
         }
 
-        /** The flip-flops, one sign each. Classes are asked of a bench of their own for each sequence. */
+        /** The flip-flops, one sign each. */
         String flops(Prop root) {
             StringBuilder out = new StringBuilder();
             int length = word.length;
@@ -389,11 +390,7 @@ final class Model {
         }
 
         private void tellRows(StringBuilder out, Prop part, TreeSet<Integer> places) {
-            AssertionBench bench = new AssertionBench();
-            Text.read(bench, 0, "{" + part.seq().text() + "}");
-            for (int v : word) {
-                bench.letter(v);
-            }
+            ClassModel classes = new ClassModel(part.seq());
             int length = word.length;
             TreeSet<Integer> from = new TreeSet<>(places);
             for (int j = 0; j <= length && part.kind() == Kind.NEVER && !places.isEmpty(); j++) {
@@ -401,14 +398,14 @@ final class Model {
                     from.add(j);
                 }
             }
-            for (int c = 0; c < bench.classes(0); c++) {
+            for (int c = 0; c < classes.count(); c++) {
                 boolean plain = part.kind() == Kind.PLAIN;
-                if (bench.kind(0, c) == 0 || plain && bench.kind(0, c) == 3) {
+                if (classes.kind(c) == 0 || plain && classes.kind(c) == 3) {
                     continue;
                 }
                 boolean found = false;
                 for (int i : from) {
-                    found |= bench.classOf(0, i, length) == c && !(plain && hasRow(part.seq(), i));
+                    found |= classes.of(word, i, length) == c && !(plain && hasRow(part.seq(), i));
                 }
                 tell(out, found);
             }
